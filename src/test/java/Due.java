@@ -1,0 +1,92 @@
+import java.util.function.LongSupplier;
+
+/** What all tests share: they count answers that are not due, and end with exit code 1 if there was one. */
+final class Due {
+  private int asked = 0;
+  private int wrong = 0;
+
+  void same(String call, long got, long want) {
+    asked++;
+    if (got != want) {
+      wrong++;
+      System.out.println(call + " answered " + got + ", due is " + want);
+    }
+  }
+
+  void holds(String call, boolean got) {
+    same(call, got ? 1 : 0, 1);
+  }
+
+  void fails(String call, boolean got) {
+    same(call, got ? 1 : 0, 0);
+  }
+
+  void argument(String call, LongSupplier asks) {
+    thrown(call, IllegalArgumentException.class, asks);
+  }
+
+  void index(String call, LongSupplier asks) {
+    thrown(call, IndexOutOfBoundsException.class, asks);
+  }
+
+  void state(String call, LongSupplier asks) {
+    thrown(call, IllegalStateException.class, asks);
+  }
+
+  private void thrown(String call, Class<?> want, LongSupplier asks) {
+    asked++;
+    try {
+      long got = asks.getAsLong();
+      wrong++;
+      System.out.println(call + " answered " + got + ", due is " + want.getSimpleName());
+    } catch (RuntimeException e) {
+      if (e.getClass() != want) {
+        wrong++;
+        System.out.println(call + " threw " + e + ", due is " + want.getSimpleName());
+      }
+    }
+  }
+
+  void end() {
+    System.out.println(asked + " answers, " + wrong + " of them wrong");
+    if (wrong != 0 || asked == 0) {
+      System.exit(1);
+    }
+  }
+
+  static void feed(ForestCourts x, int... bytes) {
+    for (int k = 0; k < bytes.length; k += 20) {
+      int[] five = new int[5];
+      for (int j = 0; j < 20; j++) {
+        int b = k + j < bytes.length ? bytes[k + j] & 255 : 0;
+        five[j / 4] = five[j / 4] << 8 | b;
+      }
+      x.feed(five[0], five[1], five[2], five[3], five[4]);
+    }
+  }
+
+  static int ring(ForestCourts x, int day, int... marks) {
+    feed(x, marks);
+    return x.ring(day, marks.length);
+  }
+
+  static int walk(ForestCourts x, int... names) {
+    feed(x, names);
+    return x.walk(names.length);
+  }
+
+  static int text(ForestCourts x, int day, String text) {
+    feed(x, text.chars().toArray());
+    return x.text(day, text.length());
+  }
+
+  /** Four marks and the square ring between them, from day 0 on. */
+  static void square(ForestCourts x, int low, int high) {
+    int first = x.count(1);
+    x.mark(0, low, low);
+    x.mark(1, high, low);
+    x.mark(2, high, high);
+    x.mark(3, low, high);
+    ring(x, 0, first, first + 1, first + 2, first + 3);
+  }
+}
