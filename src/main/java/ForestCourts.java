@@ -19,25 +19,25 @@ public final class ForestCourts {
 
   private final Table tape;
   private final Ground ground;
-  private final Walk walk;
+  private final Search search;
   private final Laws laws;
   private final People people;
   private final Claims claims;
   private final Courts courts;
   private final Rolls rolls;
-  private final Beats beats;
+  private final Patrols patrols;
   private final Woods woods;
 
   public ForestCourts() {
     tape = new Table(1, TAPE_BYTES);
     ground = new Ground();
-    walk = new Walk(ground);
+    search = new Search(ground);
     laws = new Laws(tape);
     people = new People();
     claims = new Claims(people, laws);
     courts = new Courts(ground, laws, people, claims);
     rolls = new Rolls();
-    beats = new Beats(courts.wardens);
+    patrols = new Patrols(courts.wardens);
     woods = new Woods();
   }
 
@@ -106,17 +106,17 @@ public final class ForestCourts {
   public int walk(int n) throws IllegalArgumentException {
     checkArgument(within(n, 0, tape.size()));
     tape.cut(n);
-    int answer = walk.go(tape);
+    int answer = search.go(tape);
     tape.cut(0);
     return answer;
   }
 
   public int walked(int k) {
-    return walk.markAt(k);
+    return search.markAt(k);
   }
 
   public int rivals() {
-    return walk.found > 0 ? walk.found - 1 : NONE;
+    return search.found > 0 ? search.found - 1 : NONE;
   }
 
   // ---- texts
@@ -264,24 +264,24 @@ public final class ForestCourts {
   public int lodge(int warden, int x, int y, int reach) throws IndexOutOfBoundsException, IllegalArgumentException {
     checkIndex(courts.wardens.has(warden));
     checkArgument(isPlace(x, y) && within(reach, 0, 4000));
-    beats.setLodge(warden, x, y, reach);
+    patrols.setLodge(warden, x, y, reach);
     return 1;
   }
 
   public int spot(int x, int y, int worth) throws IllegalArgumentException {
     checkArgument(isPlace(x, y) && within(worth, 1, 1000));
-    return beats.addSpot(x, y, worth);
+    return patrols.addSpot(x, y, worth);
   }
 
   public int beats() {
-    beats.plan();
-    return beats.worth;
+    patrols.plan();
+    return patrols.worth;
   }
 
   public int beat(int spot) throws IndexOutOfBoundsException {
-    checkIndex(beats.spots.has(spot));
-    beats.plan();
-    return beats.wardenOf(spot);
+    checkIndex(patrols.spots.has(spot));
+    patrols.plan();
+    return patrols.wardenOf(spot);
   }
 
   // ---- woods
@@ -315,7 +315,7 @@ public final class ForestCourts {
       case 7: return courts.presentments.size();
       case 8: return courts.chest;
       case 9: return claims.rows.size();
-      case 10: return beats.spots.size();
+      case 10: return patrols.spots.size();
       case 11: return woods.rows.size();
       case 12: return woods.takings.size();
       case 13: return tape.size();
@@ -585,41 +585,31 @@ public final class ForestCourts {
       return along > 0 && turn(a, b, c) == 0;
     }
 
-    /** Whether the sides from a to b and from c to d have a point in common. */
+    /**
+     * Whether the sides from a to b and from c to d have a point in common: what they span along x and along y
+     * overlaps, and neither of them lies on one hand of the other alone.
+     */
     private boolean touch(int a, int b, int c, int d) {
-      int atC = turn(a, b, c);
-      int atD = turn(a, b, d);
-      int atA = turn(c, d, a);
-      int atB = turn(c, d, b);
-      if (atC * atD < 0 && atA * atB < 0) {
-        return true;
-      }
-      return atC == 0 && isBeside(a, b, c)
-          || atD == 0 && isBeside(a, b, d)
-          || atA == 0 && isBeside(c, d, a)
-          || atB == 0 && isBeside(c, d, b);
+      return overlap(marks.get(a, X), marks.get(b, X), marks.get(c, X), marks.get(d, X))
+          && overlap(marks.get(a, Y), marks.get(b, Y), marks.get(c, Y), marks.get(d, Y))
+          && turn(a, b, c) * turn(a, b, d) <= 0
+          && turn(c, d, a) * turn(c, d, b) <= 0;
+    }
+
+    private static boolean overlap(int a, int b, int c, int d) {
+      return Math.max(a, b) >= Math.min(c, d) && Math.max(c, d) >= Math.min(a, b);
     }
 
     /** To which hand c lies, when one goes from a to b: -1, 1, or 0 on the line. */
     private int turn(int a, int b, int c) {
-      return turnTo(a, b, marks.get(c, X), marks.get(c, Y));
+      int x = marks.get(a, X);
+      int y = marks.get(a, Y);
+      return handOf(marks.get(b, X) - x, marks.get(b, Y) - y, marks.get(c, X) - x, marks.get(c, Y) - y);
     }
 
-    private int turnTo(int a, int b, int x, int y) {
-      int fromX = marks.get(a, X);
-      int fromY = marks.get(a, Y);
-      int area = (marks.get(b, X) - fromX) * (y - fromY) - (marks.get(b, Y) - fromY) * (x - fromX);
+    private static int handOf(int aheadX, int aheadY, int x, int y) {
+      int area = aheadX * y - aheadY * x;
       return area > 0 ? 1 : area < 0 ? -1 : 0;
-    }
-
-    /** Whether c, which is on the line through a and b, is between them. */
-    private boolean isBeside(int a, int b, int c) {
-      return isBetween(marks.get(c, X), marks.get(a, X), marks.get(b, X))
-          && isBetween(marks.get(c, Y), marks.get(a, Y), marks.get(b, Y));
-    }
-
-    private static boolean isBetween(int number, int one, int other) {
-      return within(number, Math.min(one, other), Math.max(one, other));
     }
 
     int wayOf(int a, int b) {
@@ -641,6 +631,9 @@ public final class ForestCourts {
 
     int placeOn(int day, int x, int y) {
       int ring = boundsOn(day);
+      if (ring == NONE) {
+        return OUT;
+      }
       int n = rings.get(ring, LENGTH);
       int place = OUT;
       for (int k = 0; k < n && k < MOST_CORNERS; k++) {
@@ -675,17 +668,21 @@ public final class ForestCourts {
       return off * off <= reach * side;
     }
 
-    /** Whether the place sees the side straight towards greater x; an end counts for the side below it alone. */
+    /**
+     * Whether the place sees the side straight towards greater x. A corner at its height counts for sides to greater y
+     * alone: so it is seen once where the ring goes on, and twice or never where it turns back.
+     */
     private boolean isLeftOf(int a, int b, int x, int y) {
-      boolean aIsAbove = marks.get(a, Y) > y;
-      boolean bIsAbove = marks.get(b, Y) > y;
-      int wanted = bIsAbove ? 1 : -1;
-      return aIsAbove != bIsAbove && turnTo(a, b, x, y) == wanted;
+      int fromX = marks.get(a, X);
+      int fromY = marks.get(a, Y);
+      int toY = marks.get(b, Y);
+      int hand = handOf(marks.get(b, X) - fromX, toY - fromY, x - fromX, y - fromY);
+      return fromY <= y && toY > y && hand > 0 || fromY > y && toY <= y && hand < 0;
     }
   }
 
   /** The search for the shortest simple ring by names. */
-  private static final class Walk {
+  private static final class Search {
     static final int LEAST_NAMES = 3;
     static final int MOST_NAMES = 6;
 
@@ -697,7 +694,7 @@ public final class ForestCourts {
     private int shortest;
     private int found;
 
-    Walk(Ground ground) {
+    Search(Ground ground) {
       this.ground = ground;
       names = new int[MOST_NAMES];
       row = new int[MOST_NAMES];
@@ -1187,6 +1184,16 @@ public final class ForestCourts {
       return inForce;
     }
 
+    /** The first day behind this one on which a text begins; one behind all days without. */
+    int nextChange(int day) {
+      int next = LAST_DAY + 1;
+      for (int t = 0; t < texts.size(); t++) {
+        int from = texts.get(t, FROM);
+        next = from > day && from < next ? from : next;
+      }
+      return next;
+    }
+
     int ruleOn(int day, int what) {
       if (what < 0 || what >= PLAIN_RULES.length) {
         return NONE;
@@ -1465,6 +1472,9 @@ public final class ForestCourts {
     private final People people;
     private final Claims claims;
     private final int[] facts;
+    private final int[] every;
+    private int changeDay;
+    private int textsThen;
     private int today;
     private int chest;
 
@@ -1477,6 +1487,7 @@ public final class ForestCourts {
       deeds = new Table(7, 60);
       presentments = new Table(PROOFS + 1, MOST_PRESENTMENTS);
       facts = new int[6];
+      every = new int[COURTS];
     }
 
     int addWarden(int person, int weight, int share) {
@@ -1567,8 +1578,11 @@ public final class ForestCourts {
     /** The courts sit one behind the other, so that none hears what another one did on that day. */
     void beginDay() {
       today++;
+      if (today >= changeDay || laws.texts.size() != textsThen) {
+        readRules();
+      }
       for (int court = 0; court < COURTS; court++) {
-        boolean sits = sits(court);
+        boolean sits = every[court] > 0 && today % every[court] == 0;
         for (int p = 0; sits && p < presentments.size(); p++) {
           if (!comesUp(p, court) || !findAccused(p)) {
             continue;
@@ -1584,9 +1598,13 @@ public final class ForestCourts {
       }
     }
 
-    private boolean sits(int court) {
-      int every = laws.ruleOn(today, court);
-      return every > 0 && today % every == 0;
+    /** Days are many and texts are few, so the courts' times are kept until a text begins or a new one is told. */
+    private void readRules() {
+      for (int court = 0; court < COURTS; court++) {
+        every[court] = laws.ruleOn(today, court);
+      }
+      changeDay = laws.nextChange(today);
+      textsThen = laws.texts.size();
     }
 
     /** The first three states are numbered as the courts that wait for them. */
@@ -1849,7 +1867,7 @@ public final class ForestCourts {
   }
 
   /** Lodges, spots, and who goes to which. */
-  private static final class Beats {
+  private static final class Patrols {
     static final int X = 0;
     static final int Y = 1;
     static final int WORTH = 2;
@@ -1868,7 +1886,7 @@ public final class ForestCourts {
     private int worth;
     private boolean stale;
 
-    Beats(Table wardens) {
+    Patrols(Table wardens) {
       this.wardens = wardens;
       spots = new Table(3, MOST_SPOTS);
       path = new int[SETS * MOST_SPOTS];
@@ -2065,8 +2083,8 @@ public final class ForestCourts {
     private int takenIn(int wood, int kind, int year, int known) {
       int taken = 0;
       for (int t = 0; t < takings.size(); t++) {
-        if (takings.get(t, WOOD) == wood && takings.get(t, KIND) == kind
-            && takings.get(t, IN_YEAR) == year && takings.get(t, TOLD) <= known) {
+        if (takings.get(t, IN_YEAR) == year && takings.get(t, WOOD) == wood
+            && takings.get(t, KIND) == kind && takings.get(t, TOLD) <= known) {
           taken += takings.get(t, MANY);
         }
       }

@@ -88,6 +88,12 @@ public final class BeatsTest {
     beats(due, "one far spot that can't be reached", x, 2, 0, -1, -1, -1, 0, -1);
     x.lodge(0, 0, 0, 404);
     beats(due, "all", x, 105, 0, 0, 0, 0, 0, 0);
+    ForestCourts y = woods(1);
+    y.spot(100, 100, 1);
+    y.spot(100, 0, 1);
+    y.spot(0, 100, 1);
+    y.lodge(0, 0, 0, 400);
+    beats(due, "the first spot between the others", y, 3, 0, 0, 0);
   }
 
   private static void firstTwo(Due due) {

@@ -87,6 +87,25 @@ public final class BoundsTest {
     due.same("a corner touches a side that is not next", Due.ring(x, 0, 0, 2, 3, 4, 1), -4);
     due.same("a side through a mark far off", Due.ring(x, 0, 8, 5, 3, 1, 2), -4);
     due.same("the other way round", Due.ring(x, 0, 3, 2, 1, 0), 2);
+    smallAndTouching(due);
+  }
+
+  private static void smallAndTouching(Due due) {
+    ForestCourts x = new ForestCourts();
+    int[] xs = {0, 1, 0, 10, 20, 20, 10, 10, 0, 0, 20};
+    int[] ys = {0, 0, 1, 0, 0, 20, 10, 20, 20, 10, 10};
+    for (int k = 0; k < xs.length; k++) {
+      x.mark(k, xs[k], ys[k]);
+    }
+    due.same("the least ring", Due.ring(x, 0, 0, 1, 2), 0);
+    due.same("the least ring the other way round", Due.ring(x, 0, 0, 2, 1), 1);
+    due.same("from the left up to a side", Due.ring(x, 0, 3, 7, 8, 6, 0), -4);
+    due.same("from the right up to a side", Due.ring(x, 0, 7, 3, 4, 6, 5), -4);
+    due.same("from below up to a side", Due.ring(x, 0, 9, 10, 4, 6, 0), -4);
+    due.same("from above down to a side", Due.ring(x, 0, 10, 9, 8, 6, 5), -4);
+    due.same("two on one line that do not meet", Due.ring(x, 0, 9, 6, 7, 5, 10, 4, 0), 2);
+    due.same("the last side on the first", Due.ring(x, 0, 0, 1, 2, 8, 7, 6, 10, 4, 3), -4);
+    due.same("far from one another", Due.ring(x, 0, 0, 4, 5, 8), 3);
   }
 
   private static void boundsOfDays(Due due) {

@@ -8,6 +8,7 @@ public final class ClaimsTest {
     useOfThatDay(due);
     plainUse(due);
     near(due);
+    ownNumbers(due);
     heirs(due);
     due.end();
   }
@@ -145,6 +146,25 @@ public final class ClaimsTest {
     boolean[] want = {false, false, true, true, true, true};
     check(due, "near, 20 away, 21 away, another one's, another act, ahead of the use", x, want);
     due.same("the word is bar all the same", x.why(0), 0);
+  }
+
+  /** A claim whose person, act, x and y are all different. */
+  private static void ownNumbers(Due due) {
+    ForestCourts x = new ForestCourts();
+    Due.square(x, 100, 900);
+    Due.text(x, 0, "bar clear;use 1;");
+    for (int k = 0; k < 4; k++) {
+      x.person(0, 0);
+    }
+    x.claim(2, 4, 300, 700);
+    x.use(0, 0, 0);
+    x.deed(2, 4, 300, 700, 0, 1);
+    x.deed(2, 4, 700, 300, 0, 1);
+    x.deed(2, 4, 300, 300, 0, 1);
+    x.deed(2, 4, 700, 700, 0, 1);
+    x.deed(3, 4, 300, 700, 0, 1);
+    boolean[] want = {false, true, true, true, true};
+    check(due, "at the place, elsewhere three times, another one", x, want);
   }
 
   private static void heirs(Due due) {

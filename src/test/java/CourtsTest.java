@@ -17,6 +17,8 @@ public final class CourtsTest {
     wardenPays(due);
     fullPurse(due);
     changingCourts(due);
+    newCourts(due);
+    shareAndLodge(due);
     fineOfThatDay(due);
     due.end();
   }
@@ -334,6 +336,36 @@ public final class CourtsTest {
     present(x, 0, 1);
     x.wait(4);
     of(due, "on day 14, as the others are undone", x, 1, 1, 0, 14);
+  }
+
+  private static void newCourts(Due due) {
+    ForestCourts x = new ForestCourts();
+    Due.square(x, 100, 900);
+    due.same("courts that begin later", Due.text(x, 6, "bar cut;courts 3 4000 4000;"), 0);
+    Due.text(x, 0, "bar cut;courts 7 4000 4000;undo 0;");
+    Due.text(x, 5, "undo 1;");
+    for (int k = 0; k < 5; k++) {
+      x.person(0, 0);
+    }
+    x.warden(4, 5, 10);
+    present(x, 0, 1);
+    x.wait(8);
+    of(due, "on day 6, the first of the later courts", x, 0, 1, 0, 6);
+    present(x, 0, 1);
+    x.wait(2);
+    of(due, "on day 9", x, 1, 1, 0, 9);
+    present(x, 0, 1);
+    Due.text(x, 0, "courts 11 4000 4000;");
+    x.wait(1);
+    of(due, "on day 11, by a text that was told on day 10", x, 2, 1, 0, 11);
+  }
+
+  private static void shareAndLodge(Due due) {
+    ForestCourts x = woods("bar cut;courts 1 1 1;", 1000, 0, 0, 0, 0);
+    x.lodge(0, 50, 60, 70);
+    present(x, 0, 100);
+    x.wait(3);
+    of(due, "the share is as it was", x, 0, 3, 0, 3, 0, 100, 0, 0, 10);
   }
 
   private static void fineOfThatDay(Due due) {

@@ -168,9 +168,9 @@ public final class DeedsTest {
 
   private static void conditions(Due due) {
     String[] held = {"1<2", "2>1", "1=1", "1<2 or 1<0 and 1<0", "not 1>2", "not[1<2]or 1<2", "not not 1<2", "1+1=2", "0-1<0",
-      "[1<0 or 1<2]and 1<2", "not 1<0 and 1<2", "many=1", "in=1 and doubt=0", "9999*9999*22<0"};
+      "[1<0 or 1<2]and 1<2", "not 1<0 and 1<2", "many=1", "in=1 and doubt=0", "1=1 and 1<2", "1=1 and 2>1", "not[not 1=1]", "9999*9999*22<0"};
     String[] failed = {"2<1", "1<1", "1>1", "1=2", "[1<2 or 1<0]and 1<0", "not 1<2", "not[1<2 or 1<0]", "1<2 and 1<0",
-      "not not 1<0", "not 1<2 and 1<0", "not 1<2 or 1<0"};
+      "not not 1<0", "not 1<2 and 1<0", "not 1<2 or 1<0", "not 1=1", "not 2>1"};
     for (String c : held) {
       ForestCourts x = woods();
       x.deed(0, 0, 500, 500, 0, 1);

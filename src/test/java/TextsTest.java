@@ -120,6 +120,7 @@ public final class TextsTest {
     bad(due, "courts 1 0 1;", 2, 9);
     bad(due, "courts 1 1 0;", 2, 11);
     bad(due, "courts 1 1 4001;", 2, 11);
+    bad(due, "courts 1 4001 1;", 2, 9);
     bad(due, "courts 4001 x", 2, 7);
     bad(due, "use 0;", 2, 4);
     bad(due, "use  61;", 2, 5);
@@ -157,6 +158,8 @@ public final class TextsTest {
     // what can't stand there is misplaced, be it the ninth or not
     bad(due, "bar cut if [[[[[[[[1[", 1, 20);
     // within the two parts of one least its ( is open in both
+    bad(due, "fine cut=(((((((least((1),1))))))));", 3, 22);
+    good(due, "fine cut=((((((least((1),(1))))))));");
     bad(due, "fine cut=(((((((least(1,(1)))))))));", 3, 24);
   }
 
@@ -243,5 +246,6 @@ public final class TextsTest {
     due.argument("day 100001", () -> x.rule(100001, 0));
     due.argument("what -1", () -> x.rule(0, -1));
     due.argument("what 5", () -> x.rule(0, 5));
+    due.same("the last day", x.rule(100000, 4), 0);
   }
 }
