@@ -1306,11 +1306,17 @@ public final class ForestCourts {
       return rows.has(person) && rows.get(person, DEATH) == NONE;
     }
 
-    /** Who lives is found in so many steps as there are people, or else one comes again. */
+    /**
+     * Who lives is found in so many steps as there are people, or else one comes again: so, too, the first one,
+     * who is asked about and may live.
+     */
     int heirOf(int person) {
       int next = person;
       for (int k = 0; k < rows.size(); k++) {
         next = rows.get(next, HEIR);
+        if (next == person) {
+          return NONE;
+        }
         if (next == NONE || lives(next)) {
           return next;
         }

@@ -614,6 +614,7 @@ final class Model {
 
   int heirOf(int person) {
     Set<Integer> met = new HashSet<>();
+    met.add(person);
     int next = people.get(person).heir;
     while (next != NONE && met.add(next)) {
       if (people.get(next).death == NONE) {

@@ -5,6 +5,7 @@ public final class PeopleTest {
     persons(due);
     heirs(due);
     rounds(due);
+    comesBack(due);
     due.end();
   }
 
@@ -86,5 +87,32 @@ public final class PeopleTest {
     // a round that does not come back to the first
     x.heir(5, 3);
     due.same("one comes again", x.told(0, 3), -1);
+  }
+
+  private static void comesBack(Due due) {
+    ForestCourts x = new ForestCourts();
+    for (int k = 0; k < 5; k++) {
+      x.person(0, 0);
+    }
+    x.heir(0, 1);
+    x.heir(1, 0);
+    due.same("each of two is the other's", x.told(0, 3), 1);
+    due.same("each of two is the other's", x.told(1, 3), 0);
+    x.die(1);
+    due.same("one who lives comes again", x.told(0, 3), -1);
+    due.same("of the dead one it is who lives", x.told(1, 3), 0);
+    x.heir(1, 2);
+    x.heir(2, 3);
+    x.heir(3, 0);
+    x.die(2);
+    due.same("ahead of the first one is another who lives", x.told(0, 3), 3);
+    x.die(3);
+    due.same("one who lives comes again behind three", x.told(0, 3), -1);
+    due.same("from within the round", x.told(2, 3), 0);
+    x.heir(4, 1);
+    due.same("from outside the round", x.told(4, 3), 0);
+    x.heir(3, 1);
+    due.same("a round of the dead ahead of the first one", x.told(0, 3), -1);
+    due.same("a round of the dead", x.told(4, 3), -1);
   }
 }
