@@ -1,42 +1,40 @@
-/** Promises 21 (warden), 26 to 28 (present, proof, of), and what days do (2) to coins (20) and the chest (42). */
+/** Promises 21 (warden) and 26 to 28 (present, proof, of): what is presented, and how it comes through the first two courts. */
 public final class CourtsTest {
   public static void main(String[] args) {
     Due due = new Due();
     wardens(due);
-    presenting(due);
+    noWarden(due);
+    sixWardens(due);
+    presentments(due);
+    noPresentment(due);
+    fortyPresentments(due);
+    presentedBefore(due);
+    notBarred(due);
+    badPledges(due);
     proofs(due);
+    noProof(due);
+    closedToProofs(due);
+    whatItIs(due);
+    ofNothing(due);
     throughThreeCourts(due);
     plainCourts(due);
-    oneDayForAll(due);
+    onEarlierDays(due);
+    weightAndProofs(due);
     doubtful(due);
-    paying(due);
-    halves(due);
-    deadAccused(due);
-    deadPledges(due);
-    deadWarden(due);
-    wardenPays(due);
-    fullPurse(due);
+    courtsOfTheDay(due);
     changingCourts(due);
-    newCourts(due);
-    shareAndLodge(due);
-    fineOfThatDay(due);
+    deadAccused(due);
+    heirsFree(due);
+    noHeir(due);
+    deadAheadOfAll(due);
     due.end();
   }
 
-  /** A square ring, people with so many coins, all of rank 0, person 4 a warden of weight 5 and share 10. */
+  /** A square ring, people with so many coins, person 4 a warden of weight 5 and share 10. */
   private static ForestCourts woods(String text, int... coins) {
-    ForestCourts x = new ForestCourts();
-    Due.square(x, 100, 900);
-    Due.text(x, 0, text);
-    for (int c : coins) {
-      x.person(0, c);
-    }
+    ForestCourts x = Due.woods(text, coins);
     x.warden(4, 5, 10);
     return x;
-  }
-
-  private static int present(ForestCourts x, int person, int many) {
-    return x.present(x.deed(person, 0, 500, 500, x.count(0), many), 0, 1, 2);
   }
 
   private static void of(Due due, String call, ForestCourts x, int p, int... want) {
@@ -46,299 +44,372 @@ public final class CourtsTest {
   }
 
   private static void wardens(Due due) {
-    ForestCourts x = new ForestCourts();
-    x.person(0, 0);
-    due.index("person 1", () -> x.warden(1, 1, 0));
-    due.index("person -1", () -> x.warden(-1, 1, 0));
-    due.index("person 1 of no weight", () -> x.warden(1, 0, 0));
-    due.argument("weight 0", () -> x.warden(0, 0, 0));
-    due.argument("weight 10", () -> x.warden(0, 10, 0));
-    due.argument("share -1", () -> x.warden(0, 1, -1));
-    due.argument("share 51", () -> x.warden(0, 1, 51));
+    due.about(0, "WARDENS, numbered from 0 on, 6 at most: a PERSON, a WEIGHT (1 to 9), a SHARE (0 to 50 hundredths).");
+    due.about(21, "A WARDEN: the number");
+    ForestCourts x = Due.woods("", 0, 0);
+    due.same("the least of all", x.warden(0, 1, 0), 0);
+    due.same("the greatest of all", x.warden(1, 9, 50), 1);
+    due.same("one person may be two", x.warden(1, 9, 50), 2);
+    x.die(0);
+    due.same("or dead", x.warden(0, 9, 50), 3);
+    due.same("wardens", x.count(5), 4);
+  }
+
+  private static void noWarden(Due due) {
+    due.about(21, "IllegalArgumentException: WEIGHT, SHARE.");
+    ForestCourts x = Due.woods("", 0);
+    due.only("weight", 1, 9, n -> x.warden(0, n, 5));
+    due.only("share", 0, 50, n -> x.warden(0, 5, n));
+    due.same("no warden", x.count(5), 0);
+    due.about(18, "IndexOutOfBoundsException: no such PERSON (so below)");
+    due.numbered("person", 1, n -> x.warden(n, 5, 5));
+    due.numbered("person, of no weight", 1, n -> x.warden(n, 0, 5));
+    due.same("no warden", x.count(5), 0);
+  }
+
+  private static void sixWardens(Due due) {
+    due.about(21, "-1: there are 6.");
+    ForestCourts x = Due.woods("", 0);
     for (int k = 0; k < 6; k++) {
-      due.same("warden " + k, x.warden(0, k == 0 ? 1 : 9, k == 0 ? 0 : 50), k);
+      due.same("warden " + k, x.warden(0, 1 + k, 50), k);
     }
     due.same("a seventh", x.warden(0, 1, 1), -1);
     due.argument("a seventh of no share", () -> x.warden(0, 1, 51));
+    due.index("a seventh who is nobody", () -> x.warden(1, 1, 1));
     due.same("6 are there", x.count(5), 6);
   }
 
-  private static void presenting(Due due) {
+  private static void presentments(Due due) {
+    due.about(0, "PRESENTMENTS, numbered from 0 on, 40 at most: of a DEED that is BARRED, by a WARDEN, with two PLEDGES who live, "
+        + "neither the PERSON of the DEED, nor one another; once for each DEED. ACCUSED is at first the PERSON of the DEED.");
+    due.about(26, "A PRESENTMENT: its number");
+    ForestCourts x = woods("bar cut;", 0, 0, 0, 0, 0);
+    x.wait(7);
+    x.deed(0, 0, 500, 500, 0, 1);
+    x.deed(3, 0, 100, 100, 7, 1);
+    due.same("the first", x.present(0, 0, 1, 2), 0);
+    of(due, "the first", x, 0, 0, 0, 7, -1, 0, 0, 0, 0);
+    due.same("a warden may be a pledge", x.present(1, 0, 4, 0), 1);
+    of(due, "the second", x, 1, 0, 3, 7, -1, 0, 0, 0, 0);
+    due.same("presentments", x.count(7), 2);
+    x.deed(3, 0, 100, 100, 7, 1);
+    x.die(3);
+    due.same("of a dead one's deed", x.present(2, 0, 0, 1), 2);
+    of(due, "the third", x, 2, 0, 3, 7, -1, 0, 0, 0, 0);
+    x.deed(4, 0, 100, 100, 7, 1);
+    due.same("by a warden of himself", x.present(3, 0, 0, 1), 3);
+  }
+
+  private static void noPresentment(Due due) {
+    due.about(26, "IndexOutOfBoundsException: no such DEED, WARDEN, PERSON.");
     ForestCourts x = woods("bar cut;", 0, 0, 0, 0, 0);
     x.deed(0, 0, 500, 500, 0, 1);
+    due.numbered("deed", 1, n -> x.present(n, 0, 1, 2));
+    due.numbered("warden", 1, n -> x.present(0, n, 1, 2));
+    due.numbered("one pledge", 5, n -> x.present(0, 0, n, 2));
+    due.numbered("other pledge", 5, n -> x.present(0, 0, 1, n));
+    due.same("nothing", x.count(7), 0);
+    x.present(0, 0, 1, 2);
+    due.index("nobody, of a deed that was presented", () -> x.present(0, 0, 1, 5));
+  }
+
+  private static void fortyPresentments(Due due) {
+    due.about(26, "or, the first of these: -1 there are 40");
+    ForestCourts x = woods("bar cut;", 0, 0, 0, 0, 0);
+    for (int k = 0; k < 40; k++) {
+      due.same("presentment " + k, Due.present(x, 0, 1), k);
+    }
+    due.same("a 41st", Due.present(x, 0, 1), -1);
+    due.same("a 41st of one presented", x.present(0, 0, 1, 2), -1);
+    int other = x.deed(0, 1, 500, 500, 0, 1);
+    due.same("a 41st that is not barred", x.present(other, 0, 1, 2), -1);
+    due.same("a 41st with one pledge twice", x.present(40, 0, 1, 1), -1);
+    due.index("a 41st of no deed", () -> x.present(42, 0, 1, 2));
+    due.same("40 are there", x.count(7), 40);
+    due.same("the last of them", x.of(39, 0), 0);
+  }
+
+  private static void presentedBefore(Due due) {
+    due.about(26, "-2 the DEED was presented");
+    ForestCourts x = woods("bar cut;courts 1 4000 4000;", 0, 0, 0, 0, 0);
+    Due.present(x, 0, 1);
+    Due.present(x, 0, 1);
+    due.same("again", x.present(0, 0, 1, 2), -2);
+    due.same("the second again", x.present(1, 0, 3, 4), -2);
+    due.same("again, and one pledge twice", x.present(0, 0, 1, 1), -2);
+    x.proof(0, -9);
+    x.wait(1);
+    due.same("it is quashed", x.of(0, 0), 5);
+    due.same("again, as it is quashed", x.present(0, 0, 1, 2), -2);
+    Due.text(x, 0, "allow cut;");
+    due.same("again, and it is not barred any more", x.present(0, 0, 1, 2), -2);
+    due.same("two are there", x.count(7), 2);
+  }
+
+  private static void notBarred(Due due) {
+    due.about(26, "-3 it is not BARRED");
+    ForestCourts x = woods("bar cut;", 0, 0, 0, 0, 0);
     x.deed(0, 1, 500, 500, 0, 1);
     x.deed(0, 0, 5, 5, 0, 1);
-    due.index("deed 3", () -> x.present(3, 0, 1, 2));
-    due.index("deed -1", () -> x.present(-1, 0, 1, 2));
-    due.index("warden 1", () -> x.present(0, 1, 1, 2));
-    due.index("warden -1", () -> x.present(0, -1, 1, 2));
-    due.index("person 5", () -> x.present(0, 0, 5, 2));
-    due.index("person -1", () -> x.present(0, 0, 1, -1));
-    due.same("no word", x.present(1, 0, 1, 2), -3);
-    due.same("out", x.present(2, 0, 1, 2), -3);
-    due.same("no word, and one pledge twice", x.present(1, 0, 1, 1), -3);
+    due.same("no word", x.present(0, 0, 1, 2), -3);
+    due.same("out", x.present(1, 0, 1, 2), -3);
+    due.same("no word, and one pledge twice", x.present(0, 0, 1, 1), -3);
+    due.same("no word, and the deed's person", x.present(0, 0, 0, 1), -3);
+    x.die(3);
+    due.same("no word, and a dead pledge", x.present(0, 0, 3, 1), -3);
+    due.same("nothing", x.count(7), 0);
+    Due.text(x, 0, "bar hunt;");
+    due.same("barred later", x.present(0, 0, 1, 2), 0);
+  }
+
+  private static void badPledges(Due due) {
+    due.about(26, "-4 a PLEDGE is DEAD, the DEED's PERSON, or both are one.");
+    ForestCourts x = woods("bar cut;", 0, 0, 0, 0, 0);
+    x.deed(0, 0, 500, 500, 0, 1);
+    x.die(3);
     due.same("both are one", x.present(0, 0, 1, 1), -4);
     due.same("the deed's person first", x.present(0, 0, 0, 1), -4);
     due.same("the deed's person second", x.present(0, 0, 1, 0), -4);
-    x.die(3);
+    due.same("the deed's person twice", x.present(0, 0, 0, 0), -4);
     due.same("a dead one first", x.present(0, 0, 3, 1), -4);
     due.same("a dead one second", x.present(0, 0, 1, 3), -4);
-    due.same("nothing yet", x.count(7), 0);
-    due.same("a warden may be a pledge", x.present(0, 0, 4, 1), 0);
-    due.same("once", x.present(0, 0, 1, 2), -2);
-    due.same("once, and one pledge twice", x.present(0, 0, 1, 1), -2);
-    of(due, "new", x, 0, 0, 0, 0, -1, 0, 0, 0, 0);
-    due.index("presentment 1", () -> x.of(1, 0));
-    due.index("presentment -1", () -> x.of(-1, 0));
-    due.argument("what -1", () -> x.of(0, -1));
-    due.argument("what 8", () -> x.of(0, 8));
-    for (int k = 1; k < 40; k++) {
-      due.same("presentment " + k, present(x, 0, 1), k);
-    }
-    due.same("a 41st", present(x, 0, 1), -1);
-    due.same("a 41st of one presented", x.present(0, 0, 1, 2), -1);
-    due.same("40 are there", x.count(7), 40);
+    due.same("a dead one twice", x.present(0, 0, 3, 3), -4);
+    due.same("nothing", x.count(7), 0);
+    due.same("it was not presented", x.present(0, 0, 1, 2), 0);
   }
 
   private static void proofs(Due due) {
-    ForestCourts x = woods("bar cut;courts 1 3 1000;", 0, 0, 0, 0, 0);
-    present(x, 0, 1);
-    present(x, 0, 1);
-    present(x, 0, 1);
-    due.index("presentment 3", () -> x.proof(3, 0));
-    due.index("presentment 3 and no proof", () -> x.proof(3, 10));
-    due.argument("10", () -> x.proof(0, 10));
-    due.argument("-10", () -> x.proof(0, -10));
-    due.same("a proof", x.proof(0, -9), -9);
+    due.about(0, "PROOFS (-9 to 9 each) may be told; their sum counts.");
+    due.about(27, "A PROOF: their sum");
+    ForestCourts x = woods("bar cut;", 0, 0, 0, 0, 0);
+    Due.present(x, 0, 1);
+    Due.present(x, 0, 1);
+    due.same("the least", x.proof(0, -9), -9);
     due.same("their sum", x.proof(0, 4), -5);
-    due.same("their sum", x.proof(1, -4), -4);
-    due.same("their sum", x.proof(2, 9), 9);
-    due.same("their sum", x.proof(2, 9), 18);
+    due.same("none", x.proof(0, 0), -5);
+    due.same("the greatest, of another one", x.proof(1, 9), 9);
+    for (int k = 2; k < 60; k++) {
+      due.same("and again", x.proof(1, 9), 9 * k);
+    }
+    due.same("of the first", x.proof(0, -9), -14);
+  }
+
+  private static void noProof(Due due) {
+    due.about(27, "IndexOutOfBoundsException: no such PRESENTMENT (so below)");
+    ForestCourts x = woods("bar cut;", 0, 0, 0, 0, 0);
+    Due.present(x, 0, 1);
+    Due.present(x, 0, 1);
+    due.numbered("presentment", 2, n -> x.proof(n, 0));
+    due.numbered("presentment, and no proof", 2, n -> x.proof(n, 10));
+    due.about(27, "IllegalArgumentException: it is none such.");
+    due.only("proof", -9, 9, n -> x.proof(1, n));
+    due.same("their sum", x.proof(1, 1), 1);
+  }
+
+  private static void closedToProofs(Due due) {
+    due.about(27, "-1000, doing nothing: it isn't PRESENTED or ATTACHED");
+    ForestCourts x = woods("bar cut;courts 1 3 6;", 0, 0, 0, 0, 0);
+    Due.present(x, 0, 1);
+    Due.present(x, 0, 1);
+    due.same("presented", x.proof(0, -5), -5);
     x.wait(1);
-    of(due, "weight and proofs are 0", x, 0, 5, 0, 1, -1);
-    of(due, "weight and proofs are 1", x, 1, 1, 0, 1, -1);
-    due.same("one that is quashed", x.proof(0, 9), -1000);
-    due.argument("10 of one that is quashed", () -> x.proof(0, 10));
-    due.same("one that is attached", x.proof(1, -9), -13);
+    due.same("it is quashed", x.of(0, 0), 5);
+    due.same("quashed", x.proof(0, 9), -1000);
+    due.argument("10, of one that is quashed", () -> x.proof(0, 10));
+    due.same("it is quashed still", x.of(0, 0), 5);
+    due.same("attached", x.proof(1, -9), -9);
     x.wait(2);
-    of(due, "found, as it is not doubtful", x, 1, 2, 0, 3, -1);
-    due.same("one that is found", x.proof(1, 9), -1000);
+    due.same("it is found", x.of(1, 0), 2);
+    due.same("found", x.proof(1, 9), -1000);
+    x.wait(3);
+    due.same("it is owed", x.of(1, 0), 4);
+    due.same("owed", x.proof(1, 9), -1000);
+    x.person(0, 1);
+    x.heir(0, 5);
+    x.die(0);
+    x.wait(6);
+    due.same("it is paid", x.of(1, 0), 3);
+    due.same("paid", x.proof(1, 9), -1000);
+    Due.present(x, 5, 1);
+    x.die(5);
+    x.wait(1);
+    due.same("it is dead", x.of(2, 0), 6);
+    due.same("dead", x.proof(2, 9), -1000);
+  }
+
+  private static void whatItIs(Due due) {
+    due.about(0, "A PRESENTMENT is: 0 PRESENTED, 1 ATTACHED, 2 FOUND, 3 PAID, 4 OWED, 5 QUASHED, 6 DEAD.");
+    due.about(28, "Of a PRESENTMENT: 0 what it is (0 to 6), 1 the ACCUSED, 2 the DAY on which it came to be so, 3 what is OWED "
+        + "(NONE: it is neither PAID nor OWED), 4 what was paid by the ACCUSED, 5, 6 for the PLEDGES, 7 what the WARDEN's PERSON got.");
+    ForestCourts x = woods("bar cut;courts 5 7 9;fine cut=100;", 40, 30, 20, 1000, 0);
+    x.wait(3);
+    Due.present(x, 0, 1);
+    Due.present(x, 0, 1);
+    Due.present(x, 3, 1);
+    Due.present(x, 0, 1);
+    x.proof(1, -9);
+    of(due, "presented", x, 0, 0, 0, 3, -1, 0, 0, 0, 0);
+    x.wait(2);
+    of(due, "attached", x, 0, 1, 0, 5, -1, 0, 0, 0, 0);
+    of(due, "quashed", x, 1, 5, 0, 5, -1, 0, 0, 0, 0);
+    x.wait(2);
+    of(due, "found", x, 0, 2, 0, 7, -1, 0, 0, 0, 0);
+    x.wait(2);
+    of(due, "owed", x, 0, 4, 0, 9, 10, 40, 30, 20, 4 + 3 + 2);
+    of(due, "paid", x, 2, 3, 3, 9, 0, 100, 0, 0, 10);
+    of(due, "owed by one who has nothing", x, 3, 4, 0, 9, 100, 0, 0, 0, 0);
+    x.wait(5);
+    x.die(0);
+    x.wait(4);
+    of(due, "dead", x, 0, 6, 0, 18, -1, 40, 30, 20, 9);
+    of(due, "quashed and not touched any more", x, 1, 5, 0, 5, -1, 0, 0, 0, 0);
+  }
+
+  private static void ofNothing(Due due) {
+    due.about(28, "IllegalArgumentException: another what.");
+    ForestCourts x = woods("bar cut;", 0, 0, 0, 0, 0);
+    Due.present(x, 0, 1);
+    Due.present(x, 0, 1);
+    due.only("what", 0, 7, n -> x.of(0, n));
+    due.about(27, "IndexOutOfBoundsException: no such PRESENTMENT (so below)");
+    due.numbered("presentment", 2, n -> x.of(n, 0));
+    due.numbered("presentment, of no what", 2, n -> x.of(n, 8));
   }
 
   private static void throughThreeCourts(Due due) {
+    due.about(0, "Each DAY that begins (today being one more), if its number leaves 0 by the first of the COURTS on it");
+    due.about(0, "Then, if it leaves 0 by the second: all that were ATTACHED on earlier DAYS");
+    due.about(0, "Then, if it leaves 0 by the third: all that were FOUND on earlier DAYS, or are OWED");
     ForestCourts x = woods("bar cut;courts 10 15 20;", 100, 0, 0, 0, 0);
     x.wait(10);
-    present(x, 0, 30);
-    of(due, "presented", x, 0, 0, 0, 10);
+    Due.present(x, 0, 30);
     x.wait(9);
     of(due, "day 19", x, 0, 0, 0, 10);
     x.wait(1);
-    of(due, "attached", x, 0, 1, 0, 20, -1);
-    x.wait(10);
-    of(due, "found", x, 0, 2, 0, 30, -1);
+    of(due, "attached on day 20", x, 0, 1, 0, 20, -1);
+    x.wait(9);
+    of(due, "day 29", x, 0, 1, 0, 20, -1);
+    x.wait(1);
+    of(due, "found on day 30", x, 0, 2, 0, 30, -1);
     x.wait(9);
     of(due, "day 39", x, 0, 2, 0, 30, -1);
     x.wait(1);
-    of(due, "paid", x, 0, 3, 0, 40, 0, 30, 0, 0, 3);
-    due.same("coins", x.told(0, 1), 70);
-    due.same("the warden's", x.told(4, 1), 3);
-    due.same("the chest", x.count(8), 27);
+    of(due, "paid on day 40", x, 0, 3, 0, 40, 0, 30, 0, 0, 3);
     x.wait(200);
     of(due, "it stays so", x, 0, 3, 0, 40, 0, 30, 0, 0, 3);
+    due.same("once", x.told(0, 1), 70);
   }
 
   private static void plainCourts(Due due) {
+    due.about(0, "without: courts 40 120 1080, use 20, owe.");
     ForestCourts x = woods("bar cut;", 100, 0, 0, 0, 0);
-    present(x, 0, 30);
-    x.wait(39);
-    of(due, "day 39", x, 0, 0, 0, 0);
-    x.wait(1);
-    of(due, "day 40", x, 0, 1, 0, 40);
-    x.wait(79);
-    of(due, "day 119", x, 0, 1, 0, 40);
-    x.wait(1);
-    of(due, "day 120", x, 0, 2, 0, 120);
-    x.wait(959);
-    of(due, "day 1079", x, 0, 2, 0, 120);
-    x.wait(1);
-    of(due, "day 1080", x, 0, 3, 0, 1080);
+    Due.present(x, 0, 30);
+    int[] days = {39, 40, 119, 120, 1079, 1080};
+    int[] want = {0, 1, 1, 2, 2, 3};
+    int[] since = {0, 40, 40, 120, 120, 1080};
+    for (int k = 0; k < days.length; k++) {
+      Due.until(x, days[k]);
+      of(due, "day " + days[k], x, 0, want[k], 0, since[k]);
+    }
   }
 
-  private static void oneDayForAll(Due due) {
-    ForestCourts x = woods("bar cut;courts 10 10 10;", 100, 0, 0, 0, 0);
-    x.wait(5);
-    present(x, 0, 30);
-    x.wait(5);
-    of(due, "the first court only", x, 0, 1, 0, 10);
+  private static void onEarlierDays(Due due) {
+    due.about(0, "all that were PRESENTED on earlier DAYS, by number");
+    due.about(0, "all that were ATTACHED on earlier DAYS");
+    due.about(0, "all that were FOUND on earlier DAYS, or are OWED");
+    ForestCourts x = woods("bar cut;courts 10 10 10;", 10, 0, 0, 0, 0);
     x.wait(10);
-    of(due, "the second court only", x, 0, 2, 0, 20);
+    Due.present(x, 0, 30);
+    of(due, "presented on a day of all courts", x, 0, 0, 0, 10);
     x.wait(10);
-    of(due, "the third court", x, 0, 3, 0, 30);
+    of(due, "the first court only", x, 0, 1, 0, 20);
+    x.wait(10);
+    of(due, "the second court only", x, 0, 2, 0, 30);
+    x.wait(10);
+    of(due, "the third court", x, 0, 4, 0, 40, 20);
+    ForestCourts y = woods("bar cut;courts 1 1 1;", 100, 0, 0, 0, 0);
+    Due.present(y, 0, 30);
+    y.wait(1);
+    of(due, "each day one court", y, 0, 1, 0, 1);
+    Due.present(y, 0, 30);
+    y.wait(1);
+    of(due, "each day one court", y, 0, 2, 0, 2);
+    of(due, "the second is a day behind", y, 1, 1, 0, 2);
+    y.wait(1);
+    of(due, "each day one court", y, 0, 3, 0, 3);
+    of(due, "the second is a day behind", y, 1, 2, 0, 3);
+  }
+
+  private static void weightAndProofs(Due due) {
+    due.about(0, "QUASHED, if the WARDEN's WEIGHT and the PROOFS together are 0 or less; else ATTACHED.");
+    int[] weights = {1, 1, 1, 5, 5, 9, 9, 9};
+    int[] told = {0, -1, -2, -4, -5, -8, -9, 9};
+    for (int k = 0; k < weights.length; k++) {
+      ForestCourts x = Due.woods("bar cut;courts 1 2 3;", 0, 0, 0);
+      x.warden(0, weights[k], 0);
+      Due.present(x, 0, 1);
+      x.proof(0, told[k]);
+      x.wait(1);
+      of(due, "weight " + weights[k] + ", proofs " + told[k], x, 0, weights[k] + told[k] > 0 ? 1 : 5, 0, 1, -1);
+    }
+    ForestCourts y = Due.woods("bar cut;courts 1 2 3;", 0, 0, 0);
+    y.warden(0, 1, 0);
+    y.warden(0, 9, 0);
+    y.present(y.deed(0, 0, 500, 500, 0, 1), 1, 1, 2);
+    y.present(y.deed(0, 0, 500, 500, 0, 1), 0, 1, 2);
+    y.proof(0, -9);
+    y.proof(0, 1);
+    y.proof(1, -1);
+    y.wait(1);
+    of(due, "by the heavier warden", y, 0, 1, 0, 1, -1);
+    of(due, "by the lighter one", y, 1, 5, 0, 1, -1);
   }
 
   private static void doubtful(Due due) {
-    ForestCourts x = woods("bar cut;courts 1 1 100;", 100, 0, 0, 0, 0);
-    for (int k = 0; k < 4; k++) {
-      x.present(x.deed(0, 0, k == 3 ? 110 : 100, 500, 0, 1), 0, 1, 2);
+    due.about(0, "QUASHED, if the place is DOUBTFUL (on the DEED's DAY, by STRIP now) and PROOFS are 0 or less; else FOUND.");
+    ForestCourts x = woods("bar cut;courts 1 2 100;", 100, 0, 0, 0, 0);
+    int[] places = {100, 100, 100, 110, 111, 500};
+    int[] told = {0, 1, -1, 0, 0, -4};
+    int[] want = {5, 2, 5, 5, 2, 2};
+    for (int k = 0; k < places.length; k++) {
+      x.present(x.deed(0, 0, places[k], 500, 0, 1), 0, 1, 2);
+      x.proof(k, told[k]);
     }
-    x.proof(1, 1);
-    x.proof(2, 1);
-    x.proof(2, -1);
     x.wait(1);
     x.strip(10);
     x.wait(1);
-    of(due, "without proofs", x, 0, 5, 0, 2, -1);
-    of(due, "with a proof", x, 1, 2, 0, 2, -1);
-    of(due, "with proofs of 0", x, 2, 5, 0, 2, -1);
-    of(due, "doubtful by the strip now", x, 3, 5, 0, 2, -1);
+    for (int k = 0; k < places.length; k++) {
+      of(due, "at " + places[k] + ", proofs " + told[k], x, k, want[k], 0, 2, -1);
+    }
+    // the bounds of the deed's day count, not today's
+    ForestCourts y = woods("bar cut;courts 1 4 100;", 100, 0, 0, 0, 0);
+    y.unring(0, 2);
+    y.present(y.deed(0, 0, 100, 500, 0, 1), 0, 1, 2);
+    y.present(y.deed(0, 0, 500, 500, 0, 1), 0, 1, 2);
+    y.wait(3);
+    Due.square(y, 500, 700);
+    y.wait(1);
+    of(due, "doubtful on its day", y, 0, 2, 0, 4);
+    of(due, "doubtful by a ring told later", y, 1, 5, 0, 4);
   }
 
-  private static void paying(Due due) {
-    // a fine of 101: 20 by the accused, of 81 the greater half is 41 and the lesser 40
-    ForestCourts x = woods("bar cut;fine cut=101;courts 1 1 10;", 20, 30, 1000, 0, 0);
-    present(x, 0, 1);
-    x.wait(10);
-    of(due, "owed", x, 0, 4, 0, 10, 11, 20, 30, 40, 2 + 3 + 4);
-    due.same("the accused", x.told(0, 1), 0);
-    due.same("the first pledge", x.told(1, 1), 0);
-    due.same("the second pledge", x.told(2, 1), 960);
-    due.same("the warden", x.told(4, 1), 9);
-    due.same("the chest", x.count(8), 81);
-    x.wait(9);
-    of(due, "day 19", x, 0, 4, 0, 10, 11, 20, 30, 40, 9);
-    x.wait(1);
-    // of 11 the first can't pay 6, the second pays 5
-    of(due, "day 20", x, 0, 4, 0, 10, 6, 20, 30, 45, 9);
-    x.wait(10);
-    of(due, "day 30", x, 0, 4, 0, 10, 3, 20, 30, 48, 9);
-    x.wait(10);
-    of(due, "day 40: of 3 the second pays 1", x, 0, 4, 0, 10, 2, 20, 30, 49, 9);
-    x.wait(10);
-    of(due, "day 50: of 2 the second pays 1", x, 0, 4, 0, 10, 1, 20, 30, 50, 9);
-    x.wait(10);
-    of(due, "day 60: of 1 the second pays none", x, 0, 4, 0, 10, 1, 20, 30, 50, 9);
-    due.same("the second pledge", x.told(2, 1), 950);
-    due.same("the chest", x.count(8), 91);
-  }
-
-  private static void halves(Due due) {
-    ForestCourts x = woods("bar cut;fine cut=many-1;courts 1 1 1;", 0, 100, 100, 0, 0);
-    present(x, 0, 1);
-    present(x, 0, 2);
-    present(x, 0, 3);
-    present(x, 0, 4);
-    x.wait(3);
-    of(due, "nothing to pay", x, 0, 3, 0, 3, 0, 0, 0, 0, 0);
-    of(due, "1", x, 1, 3, 0, 3, 0, 0, 1, 0, 0);
-    of(due, "2", x, 2, 3, 0, 3, 0, 0, 1, 1, 0);
-    of(due, "3", x, 3, 3, 0, 3, 0, 0, 2, 1, 0);
-    due.same("the chest", x.count(8), 6);
-  }
-
-  private static void deadAccused(Due due) {
-    ForestCourts x = woods("bar cut;courts 10 20 30;", 50, 0, 0, 60, 0);
-    x.heir(0, 3);
-    present(x, 0, 70);
-    x.wait(3);
-    x.die(0);
-    of(due, "until a court", x, 0, 0, 0, 0);
-    x.wait(7);
-    of(due, "the heir", x, 0, 1, 3, 10);
-    x.heir(0, 1);
-    x.wait(20);
-    of(due, "who stays it; found on day 20, asked on 30", x, 0, 4, 3, 30, 10, 60, 0, 0, 6);
-    due.same("the dead one's coins", x.told(0, 1), 50);
-    x.die(3);
-    x.wait(30);
-    of(due, "no heir of the heir", x, 0, 6, 3, 60, -1, 60, 0, 0, 6);
-    x.heir(3, 1);
-    x.wait(30);
-    of(due, "dead for good", x, 0, 6, 3, 60, -1, 60, 0, 0, 6);
-
-    ForestCourts y = woods("bar cut;courts 10 20 30;heirs free;", 50, 0, 0, 60, 0);
-    y.heir(0, 3);
-    present(y, 0, 70);
-    y.die(0);
-    y.proof(0, -9);
-    y.wait(10);
-    of(due, "heirs are free", y, 0, 6, 0, 10, -1, 0, 0, 0, 0);
-
-    ForestCourts z = woods("bar cut;courts 10 20 30;", 50, 0, 0, 60, 0);
-    Due.text(z, 15, "heirs free;");
-    Due.text(z, 25, "heirs owe;");
-    z.heir(0, 3);
-    present(z, 0, 70);
-    z.wait(10);
-    z.die(0);
-    z.wait(9);
-    of(due, "until the second court", z, 0, 1, 0, 10);
-    z.wait(1);
-    of(due, "free on the second court's day", z, 0, 6, 0, 20);
-  }
-
-  private static void deadPledges(Due due) {
-    ForestCourts x = woods("bar cut;heirs free;courts 1 1 10;", 0, 100, 100, 40, 0);
-    present(x, 0, 101);
-    x.heir(1, 3);
-    x.die(1);
-    x.die(2);
-    x.wait(10);
-    of(due, "the first by an heir, the second by nobody", x, 0, 4, 0, 10, 61, 0, 40, 0, 4);
-    due.same("the heir", x.told(3, 1), 0);
-    due.same("the dead", x.told(1, 1), 100);
-    x.heir(2, 4);
-    x.wait(10);
-    // the lesser half of 61 is 30; the warden has 4, pays them, and gets none of them back, cut
-    of(due, "the second by an heir now", x, 0, 4, 0, 10, 57, 0, 40, 4, 4);
-    due.same("the warden", x.told(4, 1), 0);
-  }
-
-  private static void deadWarden(Due due) {
-    ForestCourts x = woods("bar cut;courts 1 1 10;", 50, 0, 0, 0, 7);
-    x.heir(4, 3);
-    present(x, 0, 100);
-    x.die(4);
-    x.wait(10);
-    of(due, "no share", x, 0, 4, 0, 10, 50, 50, 0, 0, 0);
-    due.same("the warden", x.told(4, 1), 7);
-    due.same("the warden's heir", x.told(3, 1), 0);
-    due.same("the chest", x.count(8), 50);
-  }
-
-  private static void wardenPays(Due due) {
-    // the warden is a pledge: what comes to hand from the accused is there to pay with
-    ForestCourts x = woods("bar cut;courts 1 1 10;", 50, 0, 0, 0, 0);
-    x.present(x.deed(0, 0, 500, 500, 0, 100), 0, 4, 1);
-    x.wait(10);
-    of(due, "the warden pays of the share", x, 0, 4, 0, 10, 45, 50, 5, 0, 5);
-    due.same("the warden", x.told(4, 1), 0);
-    due.same("the chest", x.count(8), 50);
-  }
-
-  private static void fullPurse(Due due) {
-    ForestCourts x = woods("bar cut;courts 1 1 10;", 1000, 0, 0, 0, 999999);
-    present(x, 0, 100);
-    x.wait(10);
-    of(due, "the share", x, 0, 3, 0, 10, 0, 100, 0, 0, 10);
-    due.same("what is above is lost", x.told(4, 1), 1000000);
-    due.same("the chest", x.count(8), 90);
-  }
-
-  private static void changingCourts(Due due) {
+  private static void courtsOfTheDay(Due due) {
+    due.about(0, "by the first of the COURTS on it");
     ForestCourts x = woods("bar cut;courts 7 4000 4000;", 1000, 0, 0, 0, 0);
     Due.text(x, 7, "courts 5 4000 4000;");
     Due.text(x, 13, "undo 1;");
-    present(x, 0, 1);
+    Due.present(x, 0, 1);
     x.wait(7);
     of(due, "not on day 7, as the courts of that day are others", x, 0, 0, 0, 0);
     x.wait(3);
     of(due, "on day 10", x, 0, 1, 0, 10);
-    present(x, 0, 1);
+    Due.present(x, 0, 1);
     x.wait(4);
     of(due, "on day 14, as the others are undone", x, 1, 1, 0, 14);
   }
 
-  private static void newCourts(Due due) {
+  private static void changingCourts(Due due) {
+    due.about(0, "by the first of the COURTS on it");
     ForestCourts x = new ForestCourts();
     Due.square(x, 100, 900);
     due.same("courts that begin later", Due.text(x, 6, "bar cut;courts 3 4000 4000;"), 0);
@@ -348,36 +419,148 @@ public final class CourtsTest {
       x.person(0, 0);
     }
     x.warden(4, 5, 10);
-    present(x, 0, 1);
+    Due.present(x, 0, 1);
     x.wait(8);
     of(due, "on day 6, the first of the later courts", x, 0, 1, 0, 6);
-    present(x, 0, 1);
+    Due.present(x, 0, 1);
     x.wait(2);
     of(due, "on day 9", x, 1, 1, 0, 9);
-    present(x, 0, 1);
+    Due.present(x, 0, 1);
     Due.text(x, 0, "courts 11 4000 4000;");
     x.wait(1);
     of(due, "on day 11, by a text that was told on day 10", x, 2, 1, 0, 11);
+    // texts that begin on days that follow one another, and on the last day
+    ForestCourts y = woods("bar cut;courts 4000 1 1;", 0, 0, 0, 0, 0);
+    Due.text(y, 100000, "courts 25 1 1;");
+    Due.text(y, 3, "courts 3 1 1;");
+    Due.text(y, 4, "undo 2;courts 4 1 1;");
+    Due.text(y, 5, "undo 3;undo 2;");
+    Due.present(y, 0, 1);
+    y.wait(3);
+    of(due, "on day 3", y, 0, 1, 0, 3);
+    Due.present(y, 0, 1);
+    y.wait(1);
+    of(due, "on day 4", y, 1, 1, 0, 4);
+    Due.present(y, 0, 1);
+    y.wait(3995);
+    of(due, "no more on day 3,999", y, 2, 0, 0, 4);
+    y.wait(1);
+    of(due, "on day 4,000", y, 2, 1, 0, 4000);
   }
 
-  private static void shareAndLodge(Due due) {
-    ForestCourts x = woods("bar cut;courts 1 1 1;", 1000, 0, 0, 0, 0);
-    x.lodge(0, 50, 60, 70);
-    present(x, 0, 100);
+  private static void deadAccused(Due due) {
+    due.about(0, "When one comes up in a court, and the ACCUSED is DEAD: if HEIRS owe on that DAY, and there is an HEIR OF the ACCUSED, "
+        + "that one is the ACCUSED from then on");
+    ForestCourts x = woods("bar cut;courts 10 20 30;", 50, 0, 0, 60, 0);
+    x.heir(0, 3);
+    Due.present(x, 0, 70);
     x.wait(3);
-    of(due, "the share is as it was", x, 0, 3, 0, 3, 0, 100, 0, 0, 10);
+    x.die(0);
+    of(due, "until a court", x, 0, 0, 0, 0);
+    x.wait(6);
+    of(due, "until a court", x, 0, 0, 0, 0);
+    x.wait(1);
+    of(due, "the heir", x, 0, 1, 3, 10);
+    x.heir(0, 1);
+    x.wait(20);
+    of(due, "who stays it; found on day 20, asked on 30", x, 0, 4, 3, 30, 10, 60, 0, 0, 6);
+    due.same("the dead one's coins", x.told(0, 1), 50);
+    x.person(0, 3);
+    x.person(0, 100);
+    x.heir(3, 5);
+    x.heir(5, 6);
+    x.die(3);
+    x.die(5);
+    x.wait(30);
+    of(due, "the heir of the heir's heir", x, 0, 3, 6, 60, 0, 70, 0, 0, 7);
+    due.same("who paid", x.told(6, 1), 90);
+    ForestCourts y = woods("bar cut;courts 10 20 30;", 50, 0, 0, 60, 0);
+    y.heir(0, 3);
+    Due.present(y, 0, 70);
+    y.wait(10);
+    y.die(0);
+    y.wait(10);
+    of(due, "dead in the second court", y, 0, 2, 3, 20);
+    y.heir(3, 1);
+    y.die(3);
+    y.wait(10);
+    of(due, "dead in the third court", y, 0, 4, 1, 30, 70);
   }
 
-  private static void fineOfThatDay(Due due) {
-    ForestCourts x = woods("bar cut;courts 1 1 10;fine cut=10;", 5, 0, 0, 0, 0);
-    present(x, 0, 1);
-    x.wait(5);
-    Due.text(x, 0, "fine cut=20;");
-    x.wait(5);
-    of(due, "the fine as it is then", x, 0, 4, 0, 10, 15, 5, 0, 0, 0);
-    Due.text(x, 0, "fine cut=100;allow cut;");
-    due.fails("it is barred no longer", x.barred(0));
+  private static void heirsFree(Due due) {
+    due.about(0, "if HEIRS owe on that DAY");
+    ForestCourts x = woods("bar cut;courts 10 20 30;heirs free;", 50, 0, 0, 60, 0);
+    x.heir(0, 3);
+    Due.present(x, 0, 70);
+    x.die(0);
+    x.wait(9);
+    of(due, "until a court", x, 0, 0, 0, 0, -1, 0, 0, 0, 0);
+    x.wait(1);
+    of(due, "heirs are free", x, 0, 6, 0, 10, -1, 0, 0, 0, 0);
+    ForestCourts z = woods("bar cut;courts 10 20 30;", 50, 0, 0, 60, 0);
+    Due.text(z, 20, "heirs free;");
+    Due.text(z, 21, "heirs owe;");
+    z.heir(0, 3);
+    Due.present(z, 0, 70);
+    z.wait(10);
+    z.die(0);
+    z.wait(9);
+    of(due, "until the second court", z, 0, 1, 0, 10);
+    z.wait(1);
+    of(due, "free on the second court's day", z, 0, 6, 0, 20);
+    ForestCourts y = woods("bar cut;courts 10 20 30;heirs free;", 50, 0, 0, 60, 0);
+    Due.text(y, 10, "heirs owe;");
+    Due.text(y, 11, "heirs free;");
+    y.heir(0, 3);
+    Due.present(y, 0, 70);
+    y.die(0);
+    y.wait(10);
+    of(due, "owe on the first court's day", y, 0, 1, 3, 10);
+    y.wait(10);
+    of(due, "who lives owes whatever heirs do", y, 0, 2, 3, 20);
+  }
+
+  private static void noHeir(Due due) {
+    due.about(0, "else it is DEAD.");
+    ForestCourts x = woods("bar cut;courts 10 20 30;", 50, 0, 0, 60, 0);
+    Due.present(x, 0, 70);
+    x.heir(0, 3);
+    x.heir(3, 0);
+    x.die(0);
+    x.die(3);
     x.wait(10);
-    of(due, "at first alone", x, 0, 4, 0, 10, 15, 5, 0, 0, 0);
+    of(due, "no heir lives", x, 0, 6, 0, 10, -1, 0, 0, 0, 0);
+    x.heir(0, 1);
+    x.wait(50);
+    of(due, "dead for good", x, 0, 6, 0, 10, -1, 0, 0, 0, 0);
+    ForestCourts y = woods("bar cut;courts 10 20 30;", 50, 0, 0, 60, 0);
+    Due.present(y, 0, 70);
+    y.wait(30);
+    of(due, "owed", y, 0, 4, 0, 30, 20, 50, 0, 0, 5);
+    y.die(0);
+    y.wait(29);
+    of(due, "owed until the court", y, 0, 4, 0, 30, 20, 50, 0, 0, 5);
+    y.wait(1);
+    of(due, "nothing is owed any more", y, 0, 6, 0, 60, -1, 50, 0, 0, 5);
+    due.same("pledges keep what they have", y.told(1, 1), 0);
+  }
+
+  private static void deadAheadOfAll(Due due) {
+    due.about(0, "When one comes up in a court, and the ACCUSED is DEAD");
+    ForestCourts x = woods("bar cut;courts 10 20 30;heirs free;", 50, 0, 0, 60, 0);
+    Due.present(x, 0, 70);
+    x.proof(0, -9);
+    x.present(x.deed(3, 0, 100, 500, 0, 1), 0, 1, 2);
+    Due.present(x, 3, 1);
+    x.proof(2, -9);
+    x.die(0);
+    x.wait(10);
+    of(due, "dead rather than quashed for its proofs", x, 0, 6, 0, 10);
+    of(due, "one who lives", x, 1, 1, 3, 10);
+    of(due, "quashed, as this one lives", x, 2, 5, 3, 10);
+    x.die(3);
+    x.wait(10);
+    of(due, "dead rather than quashed for its place", x, 1, 6, 3, 20);
+    of(due, "one that is quashed comes up no more", x, 2, 5, 3, 10);
   }
 }

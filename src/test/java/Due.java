@@ -1,15 +1,25 @@
+import java.util.function.IntToLongFunction;
 import java.util.function.LongSupplier;
 
 /** What all tests share: they count answers that are not due, and end with exit code 1 if there was one. */
 final class Due {
   private int asked = 0;
   private int wrong = 0;
+  private String about = "";
+
+  /**
+   * The answers from here on are held against these words of the document: of a promise, or of the terms (0).
+   * SentencesTest looks whether the document has these words, and whether there are any that no test names.
+   */
+  void about(int promise, String words) {
+    about = (promise == 0 ? "terms" : "promise " + promise) + ", \"" + words + "\": ";
+  }
 
   void same(String call, long got, long want) {
     asked++;
     if (got != want) {
       wrong++;
-      System.out.println(call + " answered " + got + ", due is " + want);
+      System.out.println(about + call + " answered " + got + ", due is " + want);
     }
   }
 
@@ -33,16 +43,34 @@ final class Due {
     thrown(call, IllegalStateException.class, asks);
   }
 
+  /** Only these are arguments: the numbers next to them, and the least and greatest of all, are not. */
+  void only(String call, int least, int most, IntToLongFunction asks) {
+    for (int number : outside(least, most)) {
+      argument(call + " " + number, () -> asks.applyAsLong(number));
+    }
+  }
+
+  /** So many are there: those from 0 on are numbers of one, all others are not. */
+  void numbered(String call, int size, IntToLongFunction asks) {
+    for (int number : outside(0, size - 1)) {
+      index(call + " " + number, () -> asks.applyAsLong(number));
+    }
+  }
+
+  private static int[] outside(int least, int most) {
+    return new int[] {least - 1, most + 1, Integer.MIN_VALUE, Integer.MAX_VALUE};
+  }
+
   private void thrown(String call, Class<?> want, LongSupplier asks) {
     asked++;
     try {
       long got = asks.getAsLong();
       wrong++;
-      System.out.println(call + " answered " + got + ", due is " + want.getSimpleName());
+      System.out.println(about + call + " answered " + got + ", due is " + want.getSimpleName());
     } catch (RuntimeException e) {
       if (e.getClass() != want) {
         wrong++;
-        System.out.println(call + " threw " + e + ", due is " + want.getSimpleName());
+        System.out.println(about + call + " threw " + e + ", due is " + want.getSimpleName());
       }
     }
   }
@@ -88,5 +116,28 @@ final class Due {
     x.mark(2, high, high);
     x.mark(3, low, high);
     ring(x, 0, first, first + 1, first + 2, first + 3);
+  }
+
+  /** A square ring from 100 to 900, a text, and people with so many coins, all of rank 0. */
+  static ForestCourts woods(String text, int... coins) {
+    ForestCourts x = new ForestCourts();
+    square(x, 100, 900);
+    text(x, 0, text);
+    for (int c : coins) {
+      x.person(0, c);
+    }
+    return x;
+  }
+
+  /** A presentment of today by warden 0, with pledges 1 and 2, of a cutting in the square. */
+  static int present(ForestCourts x, int person, int many) {
+    return x.present(x.deed(person, 0, 500, 500, x.count(0), many), 0, 1, 2);
+  }
+
+  /** Waits for that day. */
+  static void until(ForestCourts x, int day) {
+    for (int k = 0; k < 26 && x.count(0) < day; k++) {
+      x.wait(Math.min(4000, day - x.count(0)));
+    }
   }
 }
