@@ -1209,7 +1209,7 @@ public final class ForestCourts {
     }
 
     /** Finds the word and the fine on an act of a day with these facts. */
-    void hear(int act, int day, int[] facts) {
+    void hear(int act, int day, Table facts) {
       int inForce = forceOn(day);
       word = NONE;
       saidFine = NONE;
@@ -1245,13 +1245,12 @@ public final class ForestCourts {
       return clauses.get(row, CODE) == clauses.get(row, CODE_END);
     }
 
-    private int valueOf(int row, int[] facts) {
+    private int valueOf(int row, Table facts) {
       int top = 0;
       for (int k = clauses.get(row, CODE); k < clauses.get(row, CODE_END); k++) {
         int sign = code.get(k, 0);
         if (sign < SIGNS && top < held.length) {
-          int fact = sign - FACTS;
-          held[top] = fact >= 0 && fact < facts.length ? facts[fact] : sign;
+          held[top] = sign < FACTS ? sign : facts.get(0, sign - FACTS);
           top++;
         } else if (sign == NOT && top >= 1) {
           held[top - 1] = 1 - held[top - 1];
@@ -1260,7 +1259,7 @@ public final class ForestCourts {
           top--;
         }
       }
-      return held[0];
+      return held.length > 0 ? held[0] : 0;
     }
 
     private static int join(int sign, int a, int b) {
@@ -1464,6 +1463,11 @@ public final class ForestCourts {
     static final int QUASHED = 5;
     static final int DEAD = 6;
 
+    /** Facts stand as the words for them do. */
+    static final int HOW_MANY = 0;
+    static final int MONTH = 1;
+    static final int RANK = 2;
+    static final int YEAR = 3;
     static final int IS_IN = 4;
     static final int IS_DOUBTFUL = 5;
 
@@ -1477,7 +1481,7 @@ public final class ForestCourts {
     private final Laws laws;
     private final People people;
     private final Claims claims;
-    private final int[] facts;
+    private final Table facts;
     private final int[] every;
     private int changeDay;
     private int textsThen;
@@ -1492,7 +1496,8 @@ public final class ForestCourts {
       wardens = new Table(6, 6);
       deeds = new Table(7, 60);
       presentments = new Table(PROOFS + 1, MOST_PRESENTMENTS);
-      facts = new int[6];
+      facts = new Table(IS_DOUBTFUL + 1, 1);
+      facts.add();
       every = new int[COURTS];
     }
 
@@ -1515,16 +1520,16 @@ public final class ForestCourts {
       return deed;
     }
 
-    /** Lets the laws find their word and fine on a deed; facts stand as the words for them do. */
+    /** Lets the laws find their word and fine on a deed. */
     void hearLaws(int deed) {
       int day = deeds.get(deed, DAY);
       int place = ground.placeOn(day, deeds.get(deed, X), deeds.get(deed, Y));
-      facts[0] = deeds.get(deed, MANY);
-      facts[1] = day / MONTH_DAYS % YEAR_MONTHS;
-      facts[2] = people.rows.get(deeds.get(deed, PERSON), People.RANK);
-      facts[3] = day / YEAR_DAYS;
-      facts[IS_IN] = place == IN ? 1 : 0;
-      facts[IS_DOUBTFUL] = place == DOUBTFUL ? 1 : 0;
+      facts.put(0, HOW_MANY, deeds.get(deed, MANY));
+      facts.put(0, MONTH, day / MONTH_DAYS % YEAR_MONTHS);
+      facts.put(0, RANK, people.rows.get(deeds.get(deed, PERSON), People.RANK));
+      facts.put(0, YEAR, day / YEAR_DAYS);
+      facts.put(0, IS_IN, place == IN ? 1 : 0);
+      facts.put(0, IS_DOUBTFUL, place == DOUBTFUL ? 1 : 0);
       laws.hear(deeds.get(deed, ACT), day, facts);
     }
 
@@ -1535,7 +1540,7 @@ public final class ForestCourts {
 
     boolean isBarred(int deed) {
       hearLaws(deed);
-      boolean isOut = facts[IS_IN] + facts[IS_DOUBTFUL] == 0;
+      boolean isOut = facts.get(0, IS_IN) + facts.get(0, IS_DOUBTFUL) == 0;
       if (!laws.wordIsBar() || isOut) {
         return false;
       }
@@ -1587,7 +1592,7 @@ public final class ForestCourts {
       if (today >= changeDay || laws.texts.size() != textsThen) {
         readRules();
       }
-      for (int court = 0; court < COURTS; court++) {
+      for (int court = 0; court < every.length; court++) {
         boolean sits = every[court] > 0 && today % every[court] == 0;
         for (int p = 0; sits && p < presentments.size(); p++) {
           if (!comesUp(p, court) || !findAccused(p)) {
@@ -1606,7 +1611,7 @@ public final class ForestCourts {
 
     /** Days are many and texts are few, so the courts' times are kept until a text begins or a new one is told. */
     private void readRules() {
-      for (int court = 0; court < COURTS; court++) {
+      for (int court = 0; court < every.length; court++) {
         every[court] = laws.ruleOn(today, court);
       }
       changeDay = laws.nextChange(today);
@@ -1739,7 +1744,7 @@ public final class ForestCourts {
 
     int leastQuarrel() {
       join();
-      return tooMany ? NONE : least[0];
+      return tooMany || least.length == 0 ? NONE : least[0];
     }
 
     int entryAt(int k) {

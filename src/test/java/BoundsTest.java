@@ -201,13 +201,8 @@ public final class BoundsTest {
     int n = places.length / 2;
     for (int first = 0; first < n; first++) {
       for (int step = -1; step <= 1; step += 2) {
-        ForestCourts x = new ForestCourts();
-        int[] row = new int[n];
-        for (int k = 0; k < n; k++) {
-          int at = Math.floorMod(first + step * k, n);
-          row[k] = x.mark(k, places[2 * at], places[2 * at + 1]);
-        }
-        due.same(call + ", from place " + first + (step < 0 ? " back" : " on"), Due.ring(x, 0, row), want);
+        String whole = call + ", from place " + first + (step < 0 ? " back" : " on");
+        due.same(whole, Due.ringAt(new ForestCourts(), first, step, places), want);
       }
     }
   }

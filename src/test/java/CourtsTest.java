@@ -30,19 +30,6 @@ public final class CourtsTest {
     due.end();
   }
 
-  /** A square ring, people with so many coins, person 4 a warden of weight 5 and share 10. */
-  private static ForestCourts woods(String text, int... coins) {
-    ForestCourts x = Due.woods(text, coins);
-    x.warden(4, 5, 10);
-    return x;
-  }
-
-  private static void of(Due due, String call, ForestCourts x, int p, int... want) {
-    for (int what = 0; what < want.length; what++) {
-      due.same(call + ": of(" + p + ", " + what + ")", x.of(p, what), want[what]);
-    }
-  }
-
   private static void wardens(Due due) {
     due.about(0, "WARDENS, numbered from 0 on, 6 at most: a PERSON, a WEIGHT (1 to 9), a SHARE (0 to 50 hundredths).");
     due.about(21, "A WARDEN: the number");
@@ -83,26 +70,26 @@ public final class CourtsTest {
     due.about(0, "PRESENTMENTS, numbered from 0 on, 40 at most: of a DEED that is BARRED, by a WARDEN, with two PLEDGES who live, "
         + "neither the PERSON of the DEED, nor one another; once for each DEED. ACCUSED is at first the PERSON of the DEED.");
     due.about(26, "A PRESENTMENT: its number");
-    ForestCourts x = woods("bar cut;", 0, 0, 0, 0, 0);
+    ForestCourts x = Due.wardened("bar cut;", 0, 0, 0, 0, 0);
     x.wait(7);
     x.deed(0, 0, 500, 500, 0, 1);
     x.deed(3, 0, 100, 100, 7, 1);
     due.same("the first", x.present(0, 0, 1, 2), 0);
-    of(due, "the first", x, 0, 0, 0, 7, -1, 0, 0, 0, 0);
+    due.of("the first", x, 0, 0, 0, 7, -1, 0, 0, 0, 0);
     due.same("a warden may be a pledge", x.present(1, 0, 4, 0), 1);
-    of(due, "the second", x, 1, 0, 3, 7, -1, 0, 0, 0, 0);
+    due.of("the second", x, 1, 0, 3, 7, -1, 0, 0, 0, 0);
     due.same("presentments", x.count(7), 2);
     x.deed(3, 0, 100, 100, 7, 1);
     x.die(3);
     due.same("of a dead one's deed", x.present(2, 0, 0, 1), 2);
-    of(due, "the third", x, 2, 0, 3, 7, -1, 0, 0, 0, 0);
+    due.of("the third", x, 2, 0, 3, 7, -1, 0, 0, 0, 0);
     x.deed(4, 0, 100, 100, 7, 1);
     due.same("by a warden of himself", x.present(3, 0, 0, 1), 3);
   }
 
   private static void noPresentment(Due due) {
     due.about(26, "IndexOutOfBoundsException: no such DEED, WARDEN, PERSON.");
-    ForestCourts x = woods("bar cut;", 0, 0, 0, 0, 0);
+    ForestCourts x = Due.wardened("bar cut;", 0, 0, 0, 0, 0);
     x.deed(0, 0, 500, 500, 0, 1);
     due.numbered("deed", 1, n -> x.present(n, 0, 1, 2));
     due.numbered("warden", 1, n -> x.present(0, n, 1, 2));
@@ -115,7 +102,7 @@ public final class CourtsTest {
 
   private static void fortyPresentments(Due due) {
     due.about(26, "or, the first of these: -1 there are 40");
-    ForestCourts x = woods("bar cut;", 0, 0, 0, 0, 0);
+    ForestCourts x = Due.wardened("bar cut;", 0, 0, 0, 0, 0);
     for (int k = 0; k < 40; k++) {
       due.same("presentment " + k, Due.present(x, 0, 1), k);
     }
@@ -131,7 +118,7 @@ public final class CourtsTest {
 
   private static void presentedBefore(Due due) {
     due.about(26, "-2 the DEED was presented");
-    ForestCourts x = woods("bar cut;courts 1 4000 4000;", 0, 0, 0, 0, 0);
+    ForestCourts x = Due.wardened("bar cut;courts 1 4000 4000;", 0, 0, 0, 0, 0);
     Due.present(x, 0, 1);
     Due.present(x, 0, 1);
     due.same("again", x.present(0, 0, 1, 2), -2);
@@ -148,7 +135,7 @@ public final class CourtsTest {
 
   private static void notBarred(Due due) {
     due.about(26, "-3 it is not BARRED");
-    ForestCourts x = woods("bar cut;", 0, 0, 0, 0, 0);
+    ForestCourts x = Due.wardened("bar cut;", 0, 0, 0, 0, 0);
     x.deed(0, 1, 500, 500, 0, 1);
     x.deed(0, 0, 5, 5, 0, 1);
     due.same("no word", x.present(0, 0, 1, 2), -3);
@@ -164,7 +151,7 @@ public final class CourtsTest {
 
   private static void badPledges(Due due) {
     due.about(26, "-4 a PLEDGE is DEAD, the DEED's PERSON, or both are one.");
-    ForestCourts x = woods("bar cut;", 0, 0, 0, 0, 0);
+    ForestCourts x = Due.wardened("bar cut;", 0, 0, 0, 0, 0);
     x.deed(0, 0, 500, 500, 0, 1);
     x.die(3);
     due.same("both are one", x.present(0, 0, 1, 1), -4);
@@ -181,7 +168,7 @@ public final class CourtsTest {
   private static void proofs(Due due) {
     due.about(0, "PROOFS (-9 to 9 each) may be told; their sum counts.");
     due.about(27, "A PROOF: their sum");
-    ForestCourts x = woods("bar cut;", 0, 0, 0, 0, 0);
+    ForestCourts x = Due.wardened("bar cut;", 0, 0, 0, 0, 0);
     Due.present(x, 0, 1);
     Due.present(x, 0, 1);
     due.same("the least", x.proof(0, -9), -9);
@@ -196,7 +183,7 @@ public final class CourtsTest {
 
   private static void noProof(Due due) {
     due.about(27, "IndexOutOfBoundsException: no such PRESENTMENT (so below)");
-    ForestCourts x = woods("bar cut;", 0, 0, 0, 0, 0);
+    ForestCourts x = Due.wardened("bar cut;", 0, 0, 0, 0, 0);
     Due.present(x, 0, 1);
     Due.present(x, 0, 1);
     due.numbered("presentment", 2, n -> x.proof(n, 0));
@@ -208,7 +195,7 @@ public final class CourtsTest {
 
   private static void closedToProofs(Due due) {
     due.about(27, "-1000, doing nothing: it isn't PRESENTED or ATTACHED");
-    ForestCourts x = woods("bar cut;courts 1 3 6;", 0, 0, 0, 0, 0);
+    ForestCourts x = Due.wardened("bar cut;courts 1 3 6;", 0, 0, 0, 0, 0);
     Due.present(x, 0, 1);
     Due.present(x, 0, 1);
     due.same("presented", x.proof(0, -5), -5);
@@ -241,33 +228,33 @@ public final class CourtsTest {
     due.about(0, "A PRESENTMENT is: 0 PRESENTED, 1 ATTACHED, 2 FOUND, 3 PAID, 4 OWED, 5 QUASHED, 6 DEAD.");
     due.about(28, "Of a PRESENTMENT: 0 what it is (0 to 6), 1 the ACCUSED, 2 the DAY on which it came to be so, 3 what is OWED "
         + "(NONE: it is neither PAID nor OWED), 4 what was paid by the ACCUSED, 5, 6 for the PLEDGES, 7 what the WARDEN's PERSON got.");
-    ForestCourts x = woods("bar cut;courts 5 7 9;fine cut=100;", 40, 30, 20, 1000, 0);
+    ForestCourts x = Due.wardened("bar cut;courts 5 7 9;fine cut=100;", 40, 30, 20, 1000, 0);
     x.wait(3);
     Due.present(x, 0, 1);
     Due.present(x, 0, 1);
     Due.present(x, 3, 1);
     Due.present(x, 0, 1);
     x.proof(1, -9);
-    of(due, "presented", x, 0, 0, 0, 3, -1, 0, 0, 0, 0);
+    due.of("presented", x, 0, 0, 0, 3, -1, 0, 0, 0, 0);
     x.wait(2);
-    of(due, "attached", x, 0, 1, 0, 5, -1, 0, 0, 0, 0);
-    of(due, "quashed", x, 1, 5, 0, 5, -1, 0, 0, 0, 0);
+    due.of("attached", x, 0, 1, 0, 5, -1, 0, 0, 0, 0);
+    due.of("quashed", x, 1, 5, 0, 5, -1, 0, 0, 0, 0);
     x.wait(2);
-    of(due, "found", x, 0, 2, 0, 7, -1, 0, 0, 0, 0);
+    due.of("found", x, 0, 2, 0, 7, -1, 0, 0, 0, 0);
     x.wait(2);
-    of(due, "owed", x, 0, 4, 0, 9, 10, 40, 30, 20, 4 + 3 + 2);
-    of(due, "paid", x, 2, 3, 3, 9, 0, 100, 0, 0, 10);
-    of(due, "owed by one who has nothing", x, 3, 4, 0, 9, 100, 0, 0, 0, 0);
+    due.of("owed", x, 0, 4, 0, 9, 10, 40, 30, 20, 4 + 3 + 2);
+    due.of("paid", x, 2, 3, 3, 9, 0, 100, 0, 0, 10);
+    due.of("owed by one who has nothing", x, 3, 4, 0, 9, 100, 0, 0, 0, 0);
     x.wait(5);
     x.die(0);
     x.wait(4);
-    of(due, "dead", x, 0, 6, 0, 18, -1, 40, 30, 20, 9);
-    of(due, "quashed and not touched any more", x, 1, 5, 0, 5, -1, 0, 0, 0, 0);
+    due.of("dead", x, 0, 6, 0, 18, -1, 40, 30, 20, 9);
+    due.of("quashed and not touched any more", x, 1, 5, 0, 5, -1, 0, 0, 0, 0);
   }
 
   private static void ofNothing(Due due) {
     due.about(28, "IllegalArgumentException: another what.");
-    ForestCourts x = woods("bar cut;", 0, 0, 0, 0, 0);
+    ForestCourts x = Due.wardened("bar cut;", 0, 0, 0, 0, 0);
     Due.present(x, 0, 1);
     Due.present(x, 0, 1);
     due.only("what", 0, 7, n -> x.of(0, n));
@@ -280,36 +267,36 @@ public final class CourtsTest {
     due.about(0, "Each DAY that begins (today being one more), if its number leaves 0 by the first of the COURTS on it");
     due.about(0, "Then, if it leaves 0 by the second: all that were ATTACHED on earlier DAYS");
     due.about(0, "Then, if it leaves 0 by the third: all that were FOUND on earlier DAYS, or are OWED");
-    ForestCourts x = woods("bar cut;courts 10 15 20;", 100, 0, 0, 0, 0);
+    ForestCourts x = Due.wardened("bar cut;courts 10 15 20;", 100, 0, 0, 0, 0);
     x.wait(10);
     Due.present(x, 0, 30);
     x.wait(9);
-    of(due, "day 19", x, 0, 0, 0, 10);
+    due.of("day 19", x, 0, 0, 0, 10);
     x.wait(1);
-    of(due, "attached on day 20", x, 0, 1, 0, 20, -1);
+    due.of("attached on day 20", x, 0, 1, 0, 20, -1);
     x.wait(9);
-    of(due, "day 29", x, 0, 1, 0, 20, -1);
+    due.of("day 29", x, 0, 1, 0, 20, -1);
     x.wait(1);
-    of(due, "found on day 30", x, 0, 2, 0, 30, -1);
+    due.of("found on day 30", x, 0, 2, 0, 30, -1);
     x.wait(9);
-    of(due, "day 39", x, 0, 2, 0, 30, -1);
+    due.of("day 39", x, 0, 2, 0, 30, -1);
     x.wait(1);
-    of(due, "paid on day 40", x, 0, 3, 0, 40, 0, 30, 0, 0, 3);
+    due.of("paid on day 40", x, 0, 3, 0, 40, 0, 30, 0, 0, 3);
     x.wait(200);
-    of(due, "it stays so", x, 0, 3, 0, 40, 0, 30, 0, 0, 3);
+    due.of("it stays so", x, 0, 3, 0, 40, 0, 30, 0, 0, 3);
     due.same("once", x.told(0, 1), 70);
   }
 
   private static void plainCourts(Due due) {
     due.about(0, "without: courts 40 120 1080, use 20, owe.");
-    ForestCourts x = woods("bar cut;", 100, 0, 0, 0, 0);
+    ForestCourts x = Due.wardened("bar cut;", 100, 0, 0, 0, 0);
     Due.present(x, 0, 30);
     int[] days = {39, 40, 119, 120, 1079, 1080};
     int[] want = {0, 1, 1, 2, 2, 3};
     int[] since = {0, 40, 40, 120, 120, 1080};
     for (int k = 0; k < days.length; k++) {
       Due.until(x, days[k]);
-      of(due, "day " + days[k], x, 0, want[k], 0, since[k]);
+      due.of("day " + days[k], x, 0, want[k], 0, since[k]);
     }
   }
 
@@ -317,27 +304,27 @@ public final class CourtsTest {
     due.about(0, "all that were PRESENTED on earlier DAYS, by number");
     due.about(0, "all that were ATTACHED on earlier DAYS");
     due.about(0, "all that were FOUND on earlier DAYS, or are OWED");
-    ForestCourts x = woods("bar cut;courts 10 10 10;", 10, 0, 0, 0, 0);
+    ForestCourts x = Due.wardened("bar cut;courts 10 10 10;", 10, 0, 0, 0, 0);
     x.wait(10);
     Due.present(x, 0, 30);
-    of(due, "presented on a day of all courts", x, 0, 0, 0, 10);
+    due.of("presented on a day of all courts", x, 0, 0, 0, 10);
     x.wait(10);
-    of(due, "the first court only", x, 0, 1, 0, 20);
+    due.of("the first court only", x, 0, 1, 0, 20);
     x.wait(10);
-    of(due, "the second court only", x, 0, 2, 0, 30);
+    due.of("the second court only", x, 0, 2, 0, 30);
     x.wait(10);
-    of(due, "the third court", x, 0, 4, 0, 40, 20);
-    ForestCourts y = woods("bar cut;courts 1 1 1;", 100, 0, 0, 0, 0);
+    due.of("the third court", x, 0, 4, 0, 40, 20);
+    ForestCourts y = Due.wardened("bar cut;courts 1 1 1;", 100, 0, 0, 0, 0);
     Due.present(y, 0, 30);
     y.wait(1);
-    of(due, "each day one court", y, 0, 1, 0, 1);
+    due.of("each day one court", y, 0, 1, 0, 1);
     Due.present(y, 0, 30);
     y.wait(1);
-    of(due, "each day one court", y, 0, 2, 0, 2);
-    of(due, "the second is a day behind", y, 1, 1, 0, 2);
+    due.of("each day one court", y, 0, 2, 0, 2);
+    due.of("the second is a day behind", y, 1, 1, 0, 2);
     y.wait(1);
-    of(due, "each day one court", y, 0, 3, 0, 3);
-    of(due, "the second is a day behind", y, 1, 2, 0, 3);
+    due.of("each day one court", y, 0, 3, 0, 3);
+    due.of("the second is a day behind", y, 1, 2, 0, 3);
   }
 
   private static void weightAndProofs(Due due) {
@@ -350,7 +337,7 @@ public final class CourtsTest {
       Due.present(x, 0, 1);
       x.proof(0, told[k]);
       x.wait(1);
-      of(due, "weight " + weights[k] + ", proofs " + told[k], x, 0, weights[k] + told[k] > 0 ? 1 : 5, 0, 1, -1);
+      due.of("weight " + weights[k] + ", proofs " + told[k], x, 0, weights[k] + told[k] > 0 ? 1 : 5, 0, 1, -1);
     }
     ForestCourts y = Due.woods("bar cut;courts 1 2 3;", 0, 0, 0);
     y.warden(0, 1, 0);
@@ -361,13 +348,13 @@ public final class CourtsTest {
     y.proof(0, 1);
     y.proof(1, -1);
     y.wait(1);
-    of(due, "by the heavier warden", y, 0, 1, 0, 1, -1);
-    of(due, "by the lighter one", y, 1, 5, 0, 1, -1);
+    due.of("by the heavier warden", y, 0, 1, 0, 1, -1);
+    due.of("by the lighter one", y, 1, 5, 0, 1, -1);
   }
 
   private static void doubtful(Due due) {
     due.about(0, "QUASHED, if the place is DOUBTFUL (on the DEED's DAY, by STRIP now) and PROOFS are 0 or less; else FOUND.");
-    ForestCourts x = woods("bar cut;courts 1 2 100;", 100, 0, 0, 0, 0);
+    ForestCourts x = Due.wardened("bar cut;courts 1 2 100;", 100, 0, 0, 0, 0);
     int[] places = {100, 100, 100, 110, 111, 500};
     int[] told = {0, 1, -1, 0, 0, -4};
     int[] want = {5, 2, 5, 5, 2, 2};
@@ -379,33 +366,33 @@ public final class CourtsTest {
     x.strip(10);
     x.wait(1);
     for (int k = 0; k < places.length; k++) {
-      of(due, "at " + places[k] + ", proofs " + told[k], x, k, want[k], 0, 2, -1);
+      due.of("at " + places[k] + ", proofs " + told[k], x, k, want[k], 0, 2, -1);
     }
     // the bounds of the deed's day count, not today's
-    ForestCourts y = woods("bar cut;courts 1 4 100;", 100, 0, 0, 0, 0);
+    ForestCourts y = Due.wardened("bar cut;courts 1 4 100;", 100, 0, 0, 0, 0);
     y.unring(0, 2);
     y.present(y.deed(0, 0, 100, 500, 0, 1), 0, 1, 2);
     y.present(y.deed(0, 0, 500, 500, 0, 1), 0, 1, 2);
     y.wait(3);
     Due.square(y, 500, 700);
     y.wait(1);
-    of(due, "doubtful on its day", y, 0, 2, 0, 4);
-    of(due, "doubtful by a ring told later", y, 1, 5, 0, 4);
+    due.of("doubtful on its day", y, 0, 2, 0, 4);
+    due.of("doubtful by a ring told later", y, 1, 5, 0, 4);
   }
 
   private static void courtsOfTheDay(Due due) {
     due.about(0, "by the first of the COURTS on it");
-    ForestCourts x = woods("bar cut;courts 7 4000 4000;", 1000, 0, 0, 0, 0);
+    ForestCourts x = Due.wardened("bar cut;courts 7 4000 4000;", 1000, 0, 0, 0, 0);
     Due.text(x, 7, "courts 5 4000 4000;");
     Due.text(x, 13, "undo 1;");
     Due.present(x, 0, 1);
     x.wait(7);
-    of(due, "not on day 7, as the courts of that day are others", x, 0, 0, 0, 0);
+    due.of("not on day 7, as the courts of that day are others", x, 0, 0, 0, 0);
     x.wait(3);
-    of(due, "on day 10", x, 0, 1, 0, 10);
+    due.of("on day 10", x, 0, 1, 0, 10);
     Due.present(x, 0, 1);
     x.wait(4);
-    of(due, "on day 14, as the others are undone", x, 1, 1, 0, 14);
+    due.of("on day 14, as the others are undone", x, 1, 1, 0, 14);
   }
 
   private static void changingCourts(Due due) {
@@ -421,49 +408,49 @@ public final class CourtsTest {
     x.warden(4, 5, 10);
     Due.present(x, 0, 1);
     x.wait(8);
-    of(due, "on day 6, the first of the later courts", x, 0, 1, 0, 6);
+    due.of("on day 6, the first of the later courts", x, 0, 1, 0, 6);
     Due.present(x, 0, 1);
     x.wait(2);
-    of(due, "on day 9", x, 1, 1, 0, 9);
+    due.of("on day 9", x, 1, 1, 0, 9);
     Due.present(x, 0, 1);
     Due.text(x, 0, "courts 11 4000 4000;");
     x.wait(1);
-    of(due, "on day 11, by a text that was told on day 10", x, 2, 1, 0, 11);
+    due.of("on day 11, by a text that was told on day 10", x, 2, 1, 0, 11);
     // texts that begin on days that follow one another, and on the last day
-    ForestCourts y = woods("bar cut;courts 4000 1 1;", 0, 0, 0, 0, 0);
+    ForestCourts y = Due.wardened("bar cut;courts 4000 1 1;", 0, 0, 0, 0, 0);
     Due.text(y, 100000, "courts 25 1 1;");
     Due.text(y, 3, "courts 3 1 1;");
     Due.text(y, 4, "undo 2;courts 4 1 1;");
     Due.text(y, 5, "undo 3;undo 2;");
     Due.present(y, 0, 1);
     y.wait(3);
-    of(due, "on day 3", y, 0, 1, 0, 3);
+    due.of("on day 3", y, 0, 1, 0, 3);
     Due.present(y, 0, 1);
     y.wait(1);
-    of(due, "on day 4", y, 1, 1, 0, 4);
+    due.of("on day 4", y, 1, 1, 0, 4);
     Due.present(y, 0, 1);
     y.wait(3995);
-    of(due, "no more on day 3,999", y, 2, 0, 0, 4);
+    due.of("no more on day 3,999", y, 2, 0, 0, 4);
     y.wait(1);
-    of(due, "on day 4,000", y, 2, 1, 0, 4000);
+    due.of("on day 4,000", y, 2, 1, 0, 4000);
   }
 
   private static void deadAccused(Due due) {
     due.about(0, "When one comes up in a court, and the ACCUSED is DEAD: if HEIRS owe on that DAY, and there is an HEIR OF the ACCUSED, "
         + "that one is the ACCUSED from then on");
-    ForestCourts x = woods("bar cut;courts 10 20 30;", 50, 0, 0, 60, 0);
+    ForestCourts x = Due.wardened("bar cut;courts 10 20 30;", 50, 0, 0, 60, 0);
     x.heir(0, 3);
     Due.present(x, 0, 70);
     x.wait(3);
     x.die(0);
-    of(due, "until a court", x, 0, 0, 0, 0);
+    due.of("until a court", x, 0, 0, 0, 0);
     x.wait(6);
-    of(due, "until a court", x, 0, 0, 0, 0);
+    due.of("until a court", x, 0, 0, 0, 0);
     x.wait(1);
-    of(due, "the heir", x, 0, 1, 3, 10);
+    due.of("the heir", x, 0, 1, 3, 10);
     x.heir(0, 1);
     x.wait(20);
-    of(due, "who stays it; found on day 20, asked on 30", x, 0, 4, 3, 30, 10, 60, 0, 0, 6);
+    due.of("who stays it; found on day 20, asked on 30", x, 0, 4, 3, 30, 10, 60, 0, 0, 6);
     due.same("the dead one's coins", x.told(0, 1), 50);
     x.person(0, 3);
     x.person(0, 100);
@@ -472,32 +459,32 @@ public final class CourtsTest {
     x.die(3);
     x.die(5);
     x.wait(30);
-    of(due, "the heir of the heir's heir", x, 0, 3, 6, 60, 0, 70, 0, 0, 7);
+    due.of("the heir of the heir's heir", x, 0, 3, 6, 60, 0, 70, 0, 0, 7);
     due.same("who paid", x.told(6, 1), 90);
-    ForestCourts y = woods("bar cut;courts 10 20 30;", 50, 0, 0, 60, 0);
+    ForestCourts y = Due.wardened("bar cut;courts 10 20 30;", 50, 0, 0, 60, 0);
     y.heir(0, 3);
     Due.present(y, 0, 70);
     y.wait(10);
     y.die(0);
     y.wait(10);
-    of(due, "dead in the second court", y, 0, 2, 3, 20);
+    due.of("dead in the second court", y, 0, 2, 3, 20);
     y.heir(3, 1);
     y.die(3);
     y.wait(10);
-    of(due, "dead in the third court", y, 0, 4, 1, 30, 70);
+    due.of("dead in the third court", y, 0, 4, 1, 30, 70);
   }
 
   private static void heirsFree(Due due) {
     due.about(0, "if HEIRS owe on that DAY");
-    ForestCourts x = woods("bar cut;courts 10 20 30;heirs free;", 50, 0, 0, 60, 0);
+    ForestCourts x = Due.wardened("bar cut;courts 10 20 30;heirs free;", 50, 0, 0, 60, 0);
     x.heir(0, 3);
     Due.present(x, 0, 70);
     x.die(0);
     x.wait(9);
-    of(due, "until a court", x, 0, 0, 0, 0, -1, 0, 0, 0, 0);
+    due.of("until a court", x, 0, 0, 0, 0, -1, 0, 0, 0, 0);
     x.wait(1);
-    of(due, "heirs are free", x, 0, 6, 0, 10, -1, 0, 0, 0, 0);
-    ForestCourts z = woods("bar cut;courts 10 20 30;", 50, 0, 0, 60, 0);
+    due.of("heirs are free", x, 0, 6, 0, 10, -1, 0, 0, 0, 0);
+    ForestCourts z = Due.wardened("bar cut;courts 10 20 30;", 50, 0, 0, 60, 0);
     Due.text(z, 20, "heirs free;");
     Due.text(z, 21, "heirs owe;");
     z.heir(0, 3);
@@ -505,49 +492,49 @@ public final class CourtsTest {
     z.wait(10);
     z.die(0);
     z.wait(9);
-    of(due, "until the second court", z, 0, 1, 0, 10);
+    due.of("until the second court", z, 0, 1, 0, 10);
     z.wait(1);
-    of(due, "free on the second court's day", z, 0, 6, 0, 20);
-    ForestCourts y = woods("bar cut;courts 10 20 30;heirs free;", 50, 0, 0, 60, 0);
+    due.of("free on the second court's day", z, 0, 6, 0, 20);
+    ForestCourts y = Due.wardened("bar cut;courts 10 20 30;heirs free;", 50, 0, 0, 60, 0);
     Due.text(y, 10, "heirs owe;");
     Due.text(y, 11, "heirs free;");
     y.heir(0, 3);
     Due.present(y, 0, 70);
     y.die(0);
     y.wait(10);
-    of(due, "owe on the first court's day", y, 0, 1, 3, 10);
+    due.of("owe on the first court's day", y, 0, 1, 3, 10);
     y.wait(10);
-    of(due, "who lives owes whatever heirs do", y, 0, 2, 3, 20);
+    due.of("who lives owes whatever heirs do", y, 0, 2, 3, 20);
   }
 
   private static void noHeir(Due due) {
     due.about(0, "else it is DEAD.");
-    ForestCourts x = woods("bar cut;courts 10 20 30;", 50, 0, 0, 60, 0);
+    ForestCourts x = Due.wardened("bar cut;courts 10 20 30;", 50, 0, 0, 60, 0);
     Due.present(x, 0, 70);
     x.heir(0, 3);
     x.heir(3, 0);
     x.die(0);
     x.die(3);
     x.wait(10);
-    of(due, "no heir lives", x, 0, 6, 0, 10, -1, 0, 0, 0, 0);
+    due.of("no heir lives", x, 0, 6, 0, 10, -1, 0, 0, 0, 0);
     x.heir(0, 1);
     x.wait(50);
-    of(due, "dead for good", x, 0, 6, 0, 10, -1, 0, 0, 0, 0);
-    ForestCourts y = woods("bar cut;courts 10 20 30;", 50, 0, 0, 60, 0);
+    due.of("dead for good", x, 0, 6, 0, 10, -1, 0, 0, 0, 0);
+    ForestCourts y = Due.wardened("bar cut;courts 10 20 30;", 50, 0, 0, 60, 0);
     Due.present(y, 0, 70);
     y.wait(30);
-    of(due, "owed", y, 0, 4, 0, 30, 20, 50, 0, 0, 5);
+    due.of("owed", y, 0, 4, 0, 30, 20, 50, 0, 0, 5);
     y.die(0);
     y.wait(29);
-    of(due, "owed until the court", y, 0, 4, 0, 30, 20, 50, 0, 0, 5);
+    due.of("owed until the court", y, 0, 4, 0, 30, 20, 50, 0, 0, 5);
     y.wait(1);
-    of(due, "nothing is owed any more", y, 0, 6, 0, 60, -1, 50, 0, 0, 5);
+    due.of("nothing is owed any more", y, 0, 6, 0, 60, -1, 50, 0, 0, 5);
     due.same("pledges keep what they have", y.told(1, 1), 0);
   }
 
   private static void deadAheadOfAll(Due due) {
     due.about(0, "When one comes up in a court, and the ACCUSED is DEAD");
-    ForestCourts x = woods("bar cut;courts 10 20 30;heirs free;", 50, 0, 0, 60, 0);
+    ForestCourts x = Due.wardened("bar cut;courts 10 20 30;heirs free;", 50, 0, 0, 60, 0);
     Due.present(x, 0, 70);
     x.proof(0, -9);
     x.present(x.deed(3, 0, 100, 500, 0, 1), 0, 1, 2);
@@ -555,12 +542,12 @@ public final class CourtsTest {
     x.proof(2, -9);
     x.die(0);
     x.wait(10);
-    of(due, "dead rather than quashed for its proofs", x, 0, 6, 0, 10);
-    of(due, "one who lives", x, 1, 1, 3, 10);
-    of(due, "quashed, as this one lives", x, 2, 5, 3, 10);
+    due.of("dead rather than quashed for its proofs", x, 0, 6, 0, 10);
+    due.of("one who lives", x, 1, 1, 3, 10);
+    due.of("quashed, as this one lives", x, 2, 5, 3, 10);
     x.die(3);
     x.wait(10);
-    of(due, "dead rather than quashed for its place", x, 1, 6, 3, 20);
-    of(due, "one that is quashed comes up no more", x, 2, 5, 3, 10);
+    due.of("dead rather than quashed for its place", x, 1, 6, 3, 20);
+    due.of("one that is quashed comes up no more", x, 2, 5, 3, 10);
   }
 }

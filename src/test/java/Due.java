@@ -82,6 +82,13 @@ final class Due {
     }
   }
 
+  /** Asks for what a presentment is: of(p, 0), of(p, 1), so on. */
+  void of(String call, ForestCourts x, int p, int... want) {
+    for (int what = 0; what < want.length; what++) {
+      same(call + ": of(" + p + ", " + what + ")", x.of(p, what), want[what]);
+    }
+  }
+
   static void feed(ForestCourts x, int... bytes) {
     for (int k = 0; k < bytes.length; k += 20) {
       int[] five = new int[5];
@@ -96,6 +103,20 @@ final class Due {
   static int ring(ForestCourts x, int day, int... marks) {
     feed(x, marks);
     return x.ring(day, marks.length);
+  }
+
+  /**
+   * Marks at these places, x and y by turns, and their ring from day 0 on, whichever of them is its first one;
+   * forwards, or backwards by a step of -1.
+   */
+  static int ringAt(ForestCourts x, int first, int step, int... places) {
+    int n = places.length / 2;
+    int[] row = new int[n];
+    for (int k = 0; k < n; k++) {
+      int at = Math.floorMod(first + step * k, n);
+      row[k] = x.mark(k, places[2 * at], places[2 * at + 1]);
+    }
+    return ring(x, 0, row);
   }
 
   static int walk(ForestCourts x, int... names) {
@@ -126,6 +147,13 @@ final class Due {
     for (int c : coins) {
       x.person(0, c);
     }
+    return x;
+  }
+
+  /** These woods with a warden: person 4, of weight 5 and share 10. */
+  static ForestCourts wardened(String text, int... coins) {
+    ForestCourts x = woods(text, coins);
+    x.warden(4, 5, 10);
     return x;
   }
 

@@ -154,12 +154,7 @@ public final class PlacesTest {
     for (int first = 0; first < n; first++) {
       for (int step = -1; step <= 1; step += 2) {
         ForestCourts woods = new ForestCourts();
-        int[] row = new int[n];
-        for (int k = 0; k < n; k++) {
-          int at = Math.floorMod(first + step * k, n);
-          row[k] = woods.mark(k, places[2 * at], places[2 * at + 1]);
-        }
-        Due.ring(woods, 0, row);
+        Due.ringAt(woods, first, step, places);
         woods.strip(strip);
         due.same(call + ", from mark " + first + (step < 0 ? " back" : " on"), woods.where(0, x, y), want);
       }
