@@ -1,3 +1,6 @@
+import java.util.ArrayList;
+import java.util.List;
+
 /** Promises 15 (force) and 16 (rule). */
 public final class LawsTest {
   public static void main(String[] args) {
@@ -8,6 +11,8 @@ public final class LawsTest {
     noForce(due);
     rules(due);
     theLastClause(due);
+    eachItsOwn(due);
+    inAnyOrder(due);
     without(due);
     noRule(due);
     due.end();
@@ -109,6 +114,52 @@ public final class LawsTest {
     Due.text(x, 80, "undo 0;undo 3;");
     due.same("all undone", x.rule(80, 3), 20);
     due.same("all undone", x.rule(80, 2), 1080);
+  }
+
+  private static void rulesAre(Due due, String call, ForestCourts x, int... want) {
+    for (int what = 0; what < want.length; what++) {
+      due.same(call + ": rule(0, " + what + ")", x.rule(0, what), want[what]);
+    }
+  }
+
+  private static void eachItsOwn(Due due) {
+    due.about(0, "what the last CLAUSE of the TEXTS IN FORCE on it tells; without: courts 40 120 1080, use 20, owe.");
+    String[] texts = {"use 5;", "heirs free;", "courts 7 8 9;", "bar cut;fine cut=1+2+3;strike hunt;"};
+    int[][] want = {{40, 120, 1080, 5, 1}, {40, 120, 1080, 20, 0}, {7, 8, 9, 20, 1}, {40, 120, 1080, 20, 1}};
+    for (int k = 0; k < texts.length; k++) {
+      ForestCourts x = new ForestCourts();
+      Due.text(x, 0, texts[k]);
+      rulesAre(due, texts[k], x, want[k]);
+    }
+    ForestCourts x = new ForestCourts();
+    Due.text(x, 0, "courts 1 2 3;use 4;heirs free;");
+    Due.text(x, 0, "undo 0;");
+    rulesAre(due, "undone", x, 40, 120, 1080, 20, 1);
+    due.fails("undone", x.force(0, 0));
+  }
+
+  /** One text tells all there is to tell, in each order: no clause takes from another one what it told. */
+  private static void inAnyOrder(Due due) {
+    due.about(0, "what the last CLAUSE of the TEXTS IN FORCE on it tells");
+    String[] clauses = {"undo 1;", "courts 5 6 7;", "use 9;", "heirs free;"};
+    for (int order = 0; order < 24; order++) {
+      List<String> left = new ArrayList<>(List.of(clauses));
+      StringBuilder text = new StringBuilder("fine cut=1+2*3;bar cut if many>4;");
+      int rest = order;
+      for (int size = 4; size > 0; size--) {
+        text.append(left.remove(rest % size));
+        rest /= size;
+      }
+      ForestCourts x = new ForestCourts();
+      for (int k = 0; k < 3; k++) {
+        Due.text(x, 0, "courts 1 1 1;use 1;heirs owe;");
+      }
+      due.same(text.toString(), Due.text(x, 0, text.toString()), 3);
+      rulesAre(due, text.toString(), x, 5, 6, 7, 9, 0);
+      for (int t = 0; t < 4; t++) {
+        due.same(text + ": force(" + t + ", 0)", x.force(t, 0) ? 1 : 0, t == 1 ? 0 : 1);
+      }
+    }
   }
 
   private static void without(Due due) {

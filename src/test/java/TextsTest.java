@@ -288,6 +288,27 @@ public final class TextsTest {
     bad(due, "undo 12345678901234567890;", 2, 5);
     bad(due, "bar xyzxyz;", 1, 4);
     bad(due, TWELVE + "use 99999;", 3, TWELVE.length());
+    // behind a fault nothing is read any more, even if it could go on from there
+    bad(due, "fine cut=1++2 2;", 1, 11);
+    bad(due, "fine cut=1+-2!", 1, 11);
+    bad(due, "fine cut=1**2 2;", 1, 11);
+    bad(due, "fine cut=1*/99999;", 1, 11);
+    bad(due, "fine cut=1+10000+10001;", 2, 11);
+    bad(due, "fine cut=1*10000*10001;", 2, 11);
+    bad(due, "fine cut=10000+(;", 2, 9);
+    bad(due, "bar cut if 1<2 and and 1<2 x;", 1, 19);
+    bad(due, "bar cut if 1<2 or or 1<2 x;", 1, 18);
+    bad(due, "bar cut if 1 and 1<2 x;", 1, 13);
+    bad(due, "bar cut if 1 or 1<2 x;", 1, 13);
+    bad(due, "bar cut if [1 and 1<2] x;", 1, 14);
+    bad(due, "fine cut=least(1++2,3) x;", 1, 17);
+    bad(due, "fine cut=(10000)*x;", 2, 10);
+    bad(due, "courts 0 4001 x;", 2, 7);
+    bad(due, "courts 1 4001 0;", 2, 9);
+    bad(due, "courts 1 ;2 3!", 1, 9);
+    bad(due, "use 0;use 1;!", 2, 4);
+    bad(due, "bar owe;bar cut!", 1, 4);
+    bad(due, "heirs cut;!", 1, 6);
     due.about(13, "or its FAULT less 10");
     due.about(14, "The place of the FAULT of the latest text()");
     bad(due, "x", 1, 0);
