@@ -785,22 +785,22 @@ public final class ForestCourts {
       this.code = code;
     }
 
-    /** The fault of the tape as the text of that number; 0 without. */
-    int read(int number) {
+    /** Begins to read the tape as the text of that number. */
+    void begin(int number) {
       end = tape.size();
       at = 0;
       text = number;
       fault = 0;
       place = NONE;
-      skipBlanks();
-      for (int k = 0; k <= MOST_CLAUSES && fault == 0 && at < end; k++) {
-        readClause(k);
-        skipBlanks();
-      }
-      return fault;
     }
 
-    private void readClause(int order) {
+    /** Whether a clause stands next, behind blanks, and nothing is wrong so far. */
+    boolean goesOn() {
+      skipBlanks();
+      return fault == 0 && at < end;
+    }
+
+    void readClause(int order) {
       int start = at;
       int kind = takeWord(CLAUSE_WORDS);
       if (kind == NONE) {
@@ -982,15 +982,17 @@ public final class ForestCourts {
 
     private boolean takeSign(int sign) {
       skipBlanks();
-      if (tape.get(at, 0) != sign) {
-        return false;
-      }
-      at++;
-      return true;
+      return tape.get(at, 0) == sign && goPast();
     }
 
     private boolean needSign(int sign) {
-      return takeSign(sign) || fail(MISPLACED, at);
+      skipBlanks();
+      return tape.get(at, 0) == sign ? goPast() : fail(MISPLACED, at);
+    }
+
+    private boolean goPast() {
+      at++;
+      return true;
     }
 
     /** Takes a number that is within these; NONE, with its fault, if there is none such. */
@@ -1132,12 +1134,15 @@ public final class ForestCourts {
       }
       int firstClause = clauses.size();
       int firstCode = code.size();
-      int fault = reader.read(texts.size());
-      if (fault != 0) {
+      reader.begin(texts.size());
+      for (int k = 0; k <= Reader.MOST_CLAUSES && reader.goesOn(); k++) {
+        reader.readClause(k);
+      }
+      if (reader.fault != 0) {
         faultPlace = reader.place;
         clauses.cut(firstClause);
         code.cut(firstCode);
-        return fault - 10;
+        return reader.fault - 10;
       }
       int text = texts.add();
       texts.put(text, FROM, day);
