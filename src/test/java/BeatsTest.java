@@ -282,6 +282,11 @@ public final class BeatsTest {
     x.lodge(0, 0, 0, 1399);
     x.lodge(1, 700, 0, 0);
     beats(due, "all but the last", x, 36, 0, 0, 0, 0, 0, 0, 0, 1);
+    x.lodge(0, 900, 900, 0);
+    x.lodge(1, 0, 0, 1400);
+    beats(due, "all by the second", x, 36, 1, 1, 1, 1, 1, 1, 1, 1);
+    x.lodge(1, 0, 0, 1399);
+    beats(due, "all but the last by the second", x, 28, 1, 1, 1, 1, 1, 1, 1, -1);
   }
 
   private static void askedSpotBySpot(Due due) {

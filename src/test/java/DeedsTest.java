@@ -15,6 +15,7 @@ public final class DeedsTest {
     cuts(due);
     byZero(due);
     conditions(due);
+    everyPair(due);
     wordsByNumber(due);
     struck(due);
     barsAndAllows(due);
@@ -239,6 +240,34 @@ public final class DeedsTest {
       due.fails(c, holds(c));
       due.holds("not[" + c + "]", holds("not[" + c + "]"));
     }
+  }
+
+  /** What holds and what does not, by twos and threes, alone and within what takes it on. */
+  private static void everyPair(Due due) {
+    due.about(0, "C: A { \"or\" A }. A: B { \"and\" B }. B: \"not\" B, \"[\" C \"]\", or E R E");
+    for (int bits = 0; bits < 8; bits++) {
+      boolean a = (bits & 4) != 0;
+      boolean b = (bits & 2) != 0;
+      boolean c = (bits & 1) != 0;
+      String x = a ? "many=1" : "many=2";
+      String y = b ? "1<2" : "2<1";
+      String z = c ? "2>1" : "1>2";
+      either(due, x + " or " + y, a || b);
+      either(due, x + " and " + y, a && b);
+      either(due, x + " or " + y + " or " + z, a || b || c);
+      either(due, x + " and " + y + " and " + z, a && b && c);
+      either(due, x + " or " + y + " and " + z, a || b && c);
+      either(due, x + " and " + y + " or " + z, a && b || c);
+      either(due, "[" + x + " or " + y + "]and " + z, (a || b) && c);
+      either(due, x + " and[" + y + " or " + z + "]", a && (b || c));
+      either(due, "not " + x + " or not " + y + " and not " + z, !a || !b && !c);
+    }
+  }
+
+  private static void either(Due due, String condition, boolean want) {
+    due.same(condition, holds(condition) ? 1 : 0, want ? 1 : 0);
+    due.same("not[" + condition + "]", holds("not[" + condition + "]") ? 1 : 0, want ? 0 : 1);
+    due.same("not not[" + condition + "]", holds("not not[" + condition + "]") ? 1 : 0, want ? 1 : 0);
   }
 
   private static void wordsByNumber(Due due) {

@@ -269,8 +269,9 @@ public final class TextsTest {
     Due.text(x, 0, TWELVE);
     due.same("the twelfth tells", x.rule(0, 3), 12);
     due.same("twelve of each text", Due.text(x, 0, TWELVE), 1);
-    ForestCourts y = Due.woods("bar cut;", 0);
+    ForestCourts y = Due.woods("bar cut;".repeat(12), 0);
     y.deed(0, 0, 500, 500, 0, 1);
+    due.same("the twelfth clause of the first text", y.why(0), 11);
     for (int text = 1; text < 10; text++) {
       due.same("text " + text + " of twelve", Due.text(y, 0, "bar cut;".repeat(12)), text);
       due.same("its twelfth clause", y.why(0), 100 * text + 11);
